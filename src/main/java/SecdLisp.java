@@ -51,6 +51,9 @@ public final class SecdLisp {
     public static final int KIND_PAIR = 3;
     public static final int KIND_CLOSURE = 4;
 
+    // A form whose first token is of a lower kind is an application.
+    private static final int FIRST_KEYWORD = TOK_QUOTE;
+
     private static final int ROLE_NONE = 0;
     private static final int ROLE_EXPR = 1;
     private static final int ROLE_DATUM = 2;
@@ -72,8 +75,8 @@ public final class SecdLisp {
     // Each step's value is bound at most once, but a LETREC takes its cells before its steps.
     private static final int MAX_CELLS = MAX_FUEL + MAX_ARGS;
 
-    // Each step is begun once and answered once, and one more may be begun in want of fuel; twice
-    // that is room to spare.
+    // Each step is begun once and answered once, and one more may be begun in want of fuel; this
+    // is well above that.
     private static final int MAX_TURNS = 4 * MAX_FUEL;
 
     private final int depthLimit;
@@ -104,7 +107,8 @@ public final class SecdLisp {
     private int cellCount = 0;
 
     // The forms under way, the innermost last. A form's part under way is NO_TOKEN while the body
-    // of the closure that it called is evaluated. The values of its parts begin at its base.
+    // of the closure that it called is evaluated. The values of its parts begin at its base. Each
+    // form under way and each operand is a step of its own, so the greatest fuel bounds both.
     private final int[] frameForm = new int[MAX_FUEL];
     private final int[] framePart = new int[MAX_FUEL];
     private final int[] frameEnv = new int[MAX_FUEL];
@@ -560,11 +564,6 @@ public final class SecdLisp {
         answering = false;
     }
 
-    private void giveAnswer(int value) {
-        answer = value;
-        answering = true;
-    }
-
     private void startExpr() {
         if (steps == fuelLimit) {
             status = ERR_FUEL;
@@ -576,11 +575,12 @@ public final class SecdLisp {
                 startForm();
                 break;
             case TOK_SYM:
-                int value = boundValue(hops[expr]);
-                giveAnswer(value);
+                answer = boundValue(hops[expr]);
+                answering = true;
                 break;
             default:
-                giveAnswer(expr);
+                answer = expr;
+                answering = true;
                 break;
         }
     }
@@ -596,15 +596,15 @@ public final class SecdLisp {
     private void startForm() {
         switch (tokenKind[expr + 1]) {
             case TOK_QUOTE:
-                giveAnswer(expr + 2);
+                answer = expr + 2;
+                answering = true;
                 break;
             case TOK_LAMBDA:
-                int closure = newValue(KIND_CLOSURE, expr, env);
-                giveAnswer(closure);
+                answer = newValue(KIND_CLOSURE, expr, env);
+                answering = true;
                 break;
             case TOK_LETREC:
-                int names = itemCount(expr + 2);
-                addEmptyCells(names);
+                addEmptyCells(expr);
                 openFrame();
                 break;
             default:
@@ -628,7 +628,7 @@ public final class SecdLisp {
         if (head == TOK_LET || head == TOK_LETREC) {
             return form + 5;
         }
-        if (head >= TOK_QUOTE) {
+        if (head >= FIRST_KEYWORD) {
             return form + 2;
         }
         int argument = after[form + 1];
@@ -648,7 +648,7 @@ public final class SecdLisp {
         if (tokenKind[next] != TOK_RPAREN) {
             return next;
         }
-        return head >= TOK_QUOTE ? NO_TOKEN : form + 1;
+        return head >= FIRST_KEYWORD ? NO_TOKEN : form + 1;
     }
 
     private void handOverAnswer() {
@@ -681,7 +681,7 @@ public final class SecdLisp {
         int count = operandCount - base;
         int head = tokenKind[form + 1];
         operandCount = base;
-        if (head < TOK_QUOTE) {
+        if (head < FIRST_KEYWORD) {
             call(base, count - 1);
             return;
         }
@@ -801,8 +801,9 @@ public final class SecdLisp {
         }
     }
 
-    /** Extends env by names whose values come later; until then only lambdas are evaluated in it. */
-    private void addEmptyCells(int count) {
+    /** Extends env by a LETREC's names before its lams, which look at no value, are evaluated. */
+    private void addEmptyCells(int form) {
+        int count = itemCount(form + 2);
         for (int index = 0; index < count; index++) {
             addCell(NO_VALUE);
         }

@@ -135,6 +135,8 @@ final class RunTest {
         gives(1, "(let ((f (lambda () 9))) (let ((f (lambda () (f)))) (f)))", "error 5", 8, 1);
         gives(2, "(let ((f (lambda () 9))) (let ((f (lambda () (f)))) (f)))", "9", 9, 2);
         gives(1, "(letrec ((f (lambda (f) f))) (f 3))", "3", 6, 1);
+        gives(4, "(letrec ((a (lambda () (d))) (b (lambda () (a))) (c (lambda () (b))) (d (lambda () a))) (c))",
+            "fn0@5", 14, 4);
     }
 
     private static void recursion() {
