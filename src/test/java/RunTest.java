@@ -197,7 +197,7 @@ final class RunTest {
             Check.same("run(" + fuel + ") of 7", lisp.run(fuel), SecdLisp.OK);
             Check.same("steps", lisp.steps(), 1);
         }
-        // Each level costs three steps a call, so depth 32 is met before 400; width is not.
+        // The calls double from level to level, so the fuel ends while the depth is still small.
         String wide = "(letrec ((f (lambda (n) (if n (let ((a (f (sub n 1)))) (f (sub n 1))) 0)))) (f 9))";
         int[] high = {399, 400, 401, 1000, Integer.MAX_VALUE};
         int[] due = {399, 400, 400, 400, 400};
