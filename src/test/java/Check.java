@@ -1,6 +1,8 @@
-/** What the tests share: programs written as text, and the count of wrong answers. */
+/** What the tests share: the sentence held, programs written as text, the count of wrong answers. */
 final class Check {
     private static int wrong = 0;
+    private static int sentences = 0;
+    private static String holding = "";
 
     private static final String[] KEYWORDS = {
         "quote", "lambda", "let", "letrec", "if", "cons", "car", "cdr", "null",
@@ -9,10 +11,18 @@ final class Check {
 
     private Check() {}
 
+    /**
+     * Names the sentence of the document that the checks up to the next call hold: the heading it
+     * stands under and its own words. A wrong answer is told together with it.
+     */
+    static void sentence(String heading, String words) {
+        sentences++;
+        holding = heading + ", '" + words + "': ";
+    }
+
     static void same(String what, long got, long due) {
         if (got != due) {
-            wrong++;
-            System.out.println(what + " answered " + got + ", due is " + due);
+            tell(what, "" + got, "" + due);
         }
     }
 
@@ -22,13 +32,18 @@ final class Check {
 
     static void same(String what, String got, String due) {
         if (!got.equals(due)) {
-            wrong++;
-            System.out.println(what + " answered " + got + ", due is " + due);
+            tell(what, got, due);
         }
     }
 
+    private static void tell(String what, String got, String due) {
+        wrong++;
+        System.out.println(holding + what + " answered " + got + ", due is " + due);
+    }
+
     static void end() {
-        System.out.println(wrong == 0 ? "all answers are as due" : wrong + " answers are not as due");
+        String held = sentences == 0 ? "" : sentences + " sentences held, ";
+        System.out.println(held + (wrong == 0 ? "all answers are as due" : wrong + " answers are not as due"));
         if (wrong != 0) {
             System.exit(1);
         }
@@ -80,7 +95,39 @@ final class Check {
         return lisp;
     }
 
-    /** The value at the cursor as text, read by walking; the cursor ends anywhere. */
+    static SecdLisp ran(int depthLimit, String text) {
+        SecdLisp lisp = compiled(depthLimit, text);
+        same("run of " + text, lisp.run(SecdLisp.MAX_FUEL), SecdLisp.OK);
+        return lisp;
+    }
+
+    /** Holds what compile answers for a text, and that the program is present just when it is OK. */
+    static void compiles(String text, int due) {
+        SecdLisp lisp = holding(5, text);
+        same("compile of " + text, lisp.compile(), due);
+        boolean present = lisp.run(SecdLisp.MAX_FUEL) != SecdLisp.ERR_NOPROG;
+        same("program present after compile of " + text, present, due == SecdLisp.OK);
+    }
+
+    static void accepts(String... texts) {
+        for (String text : texts) {
+            compiles(text, SecdLisp.OK);
+        }
+    }
+
+    static void refuses(String... texts) {
+        for (String text : texts) {
+            compiles(text, SecdLisp.ERR_SYNTAX);
+        }
+    }
+
+    static void unbound(String... texts) {
+        for (String text : texts) {
+            compiles(text, SecdLisp.ERR_UNBOUND);
+        }
+    }
+
+    /** The value as text, read by walking from the root; the cursor ends anywhere. */
     static String show(SecdLisp lisp) {
         return show(lisp, "");
     }

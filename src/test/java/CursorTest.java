@@ -1,139 +1,412 @@
-/** Promises 11 to 16: kind, intValue, closureArity, closureSource, goRoot, goCar and goCdr. */
+/** Promises 11 to 16, sentence by sentence: what is at the cursor, and how it moves. */
 final class CursorTest {
     private static final String TREE = "(cons (cons 5 (quote ())) (cons (lambda (a b) a) (quote (0 -3))))";
+    private static final String[] ERRORS = {
+        "(car 1)", "(div 1 0)", "(1)", "((lambda () 1) 2)", "(letrec ((f (lambda () (f)))) (f))",
+    };
 
     public static void main(String[] args) {
-        atKinds();
-        moving();
-        refusedMoves();
-        sources();
-        nothingElseChanges();
-        goneWithTheResult();
+        noKindWithoutValue();
+        kindOfEachValue();
+        askingChangesNothing("Promise 11", "kind", SecdLisp::kind);
+        intAtTheCursor();
+        noIntElsewhere();
+        askingChangesNothing("Promise 12", "intValue", SecdLisp::intValue);
+        arityAtTheCursor();
+        noArityElsewhere();
+        askingChangesNothing("Promise 13", "closureArity", SecdLisp::closureArity);
+        sourceAtTheCursor();
+        sourceOfALam();
+        noSourceElsewhere();
+        askingChangesNothing("Promise 14", "closureSource", SecdLisp::closureSource);
+
+        goRootWithoutValue();
+        goRootFromAnywhere();
+        valueNeverChanges();
+        goCarElsewhere();
+        goCarAtAPair();
+        goCdrElsewhere();
+        goCdrAtAPair();
+        movesAlterNothingElse();
+        nothingElseMoves();
+        cursorGoesWithTheResult();
+        longWalks();
         Check.end();
     }
 
-    private static void at(SecdLisp lisp, int kind, int intValue, int arity, int source) {
-        for (int i = 0; i < 2; i++) {
-            Check.same("kind", lisp.kind(), kind);
-            Check.same("intValue", lisp.intValue(), intValue);
-            Check.same("closureArity", lisp.closureArity(), arity);
-            Check.same("closureSource", lisp.closureSource(), source);
-        }
+    private static SecdLisp ran(String text) {
+        return Check.ran(8, text);
     }
 
-    private static SecdLisp ran(String text) {
-        SecdLisp lisp = Check.compiled(8, text);
-        Check.same("run of " + text, lisp.run(400), SecdLisp.OK);
+    private static SecdLisp failed(String text) {
+        SecdLisp lisp = Check.compiled(2, text);
+        Check.same("run of " + text + " fails", lisp.run(400) != SecdLisp.OK, true);
         return lisp;
     }
 
-    private static void atKinds() {
-        at(ran("0"), SecdLisp.KIND_INT, 0, -1, -1);
-        at(ran("-2147483648"), SecdLisp.KIND_INT, Integer.MIN_VALUE, -1, -1);
-        at(ran("2147483647"), SecdLisp.KIND_INT, Integer.MAX_VALUE, -1, -1);
-        at(ran("(add 20 22)"), SecdLisp.KIND_INT, 42, -1, -1);
-        at(ran("nil"), SecdLisp.KIND_NIL, 0, -1, -1);
-        at(ran("(quote ())"), SecdLisp.KIND_NIL, 0, -1, -1);
-        at(ran("(cons 1 2)"), SecdLisp.KIND_PAIR, 0, -1, -1);
-        at(ran("(quote (7))"), SecdLisp.KIND_PAIR, 0, -1, -1);
-        at(ran("(lambda () 1)"), SecdLisp.KIND_CLOSURE, 0, 0, 0);
-        at(ran("(lambda (a) 1)"), SecdLisp.KIND_CLOSURE, 0, 1, 0);
-        at(ran("(lambda (a b) 1)"), SecdLisp.KIND_CLOSURE, 0, 2, 0);
-        at(ran("(lambda (a b c) 1)"), SecdLisp.KIND_CLOSURE, 0, 3, 0);
-        at(ran("(lambda (a b c d) 1)"), SecdLisp.KIND_CLOSURE, 0, 4, 0);
-        SecdLisp failed = Check.compiled(8, "(car 1)");
-        Check.same("run", failed.run(400), SecdLisp.ERR_TYPE);
-        at(failed, SecdLisp.KIND_NONE, 0, -1, -1);
+    private static void askingChangesNothing(String promise, String name, States.Calls call) {
+        Check.sentence(promise, "It changes nothing.");
+        States.unchangedBy(name, lisp -> {
+            call.on(lisp);
+            call.on(lisp);
+        });
     }
 
-    private static void moving() {
-        SecdLisp lisp = ran(TREE);
-        at(lisp, SecdLisp.KIND_PAIR, 0, -1, -1);
-        Check.same("goCar", lisp.goCar(), true);
-        at(lisp, SecdLisp.KIND_PAIR, 0, -1, -1);
-        Check.same("goCar", lisp.goCar(), true);
-        at(lisp, SecdLisp.KIND_INT, 5, -1, -1);
-        Check.same("goRoot", lisp.goRoot(), true);
-        at(lisp, SecdLisp.KIND_PAIR, 0, -1, -1);
-        Check.same("goCar", lisp.goCar(), true);
-        Check.same("goCdr", lisp.goCdr(), true);
-        at(lisp, SecdLisp.KIND_NIL, 0, -1, -1);
-        Check.same("goRoot", lisp.goRoot(), true);
-        Check.same("goRoot at root", lisp.goRoot(), true);
-        Check.same("goCdr", lisp.goCdr(), true);
-        Check.same("goCar", lisp.goCar(), true);
-        at(lisp, SecdLisp.KIND_CLOSURE, 0, 2, 13);
-        lisp.goRoot();
-        lisp.goCdr();
-        lisp.goCdr();
-        Check.same("goCar", lisp.goCar(), true);
-        at(lisp, SecdLisp.KIND_INT, 0, -1, -1);
-        lisp.goRoot();
-        lisp.goCdr();
-        lisp.goCdr();
-        lisp.goCdr();
-        Check.same("goCar", lisp.goCar(), true);
-        at(lisp, SecdLisp.KIND_INT, -3, -1, -1);
-        Check.same("whole", Check.show(lisp), "[[5 . nil] . [fn2@13 . [0 . [-3 . nil]]]]");
-    }
+    // ---- promise 11 ----
 
-    private static void refusedMoves() {
-        String[] leaves = {"6", "nil", "(lambda (a) a)"};
-        int[] kinds = {SecdLisp.KIND_INT, SecdLisp.KIND_NIL, SecdLisp.KIND_CLOSURE};
-        for (int i = 0; i < leaves.length; i++) {
-            SecdLisp lisp = ran("(cons 1 " + leaves[i] + ")");
-            Check.same("goCdr", lisp.goCdr(), true);
-            Check.same("goCar at leaf", lisp.goCar(), false);
-            Check.same("kind stays", lisp.kind(), kinds[i]);
-            Check.same("goCdr at leaf", lisp.goCdr(), false);
-            Check.same("kind stays", lisp.kind(), kinds[i]);
-            Check.same("goRoot from leaf", lisp.goRoot(), true);
-            Check.same("kind of root", lisp.kind(), SecdLisp.KIND_PAIR);
+    private static void noKindWithoutValue() {
+        Check.sentence("Promise 11", "kind() answers KIND_NONE if there is no value");
+        for (int state = 0; state < States.COUNT; state++) {
+            SecdLisp lisp = States.make(state);
+            boolean none = lisp.kind() == SecdLisp.KIND_NONE;
+            Check.same("no kind in the state '" + States.name(state) + "'", none,
+                States.status(state) != SecdLisp.OK);
+        }
+        for (String text : ERRORS) {
+            Check.same("kind after " + text, failed(text).kind(), SecdLisp.KIND_NONE);
         }
     }
 
-    private static void sources() {
-        Check.same("second lam", Check.show(ran("(letrec ((f (lambda () 1)) (g (lambda (a b) 2))) g)")), "fn2@14");
-        Check.same("first lam", Check.show(ran("(letrec ((f (lambda () 1)) (g (lambda (a b) 2))) f)")), "fn0@5");
-        Check.same("inner lambda", Check.show(ran("((lambda (a) (lambda (b c d) a)) 1)")), "fn3@6");
-        Check.same("lambda in let", Check.show(ran("(let ((a 1) (f (lambda () 2))) f)")), "fn0@9");
+    private static void kindOfEachValue() {
+        Check.sentence("Promise 11",
+            "otherwise the kind of the value at the cursor: KIND_INT, KIND_NIL, KIND_PAIR or KIND_CLOSURE.");
+        String[] ints = {"0", "-1", "-2147483648", "(quote 4)", "(add 1 2)", "(null nil)", "(car (quote (1)))"};
+        String[] nils = {"nil", "(quote nil)", "(quote ())", "(cdr (quote (1)))", "(car (quote (())))"};
+        String[] pairs = {"(cons 1 2)", "(quote (1))", "(quote (()))", "(cdr (quote (1 2)))"};
+        String[] closures = {"(lambda () 1)", "(letrec ((f (lambda (a) a))) f)", "((lambda () (lambda () 1)))"};
+        String[][] texts = {ints, nils, pairs, closures};
+        for (int i = 0; i < texts.length; i++) {
+            for (String text : texts[i]) {
+                Check.same("kind of " + text, ran(text).kind(), SecdLisp.KIND_INT + i);
+                SecdLisp first = ran("(cons " + text + " 1)");
+                first.goCar();
+                Check.same("kind of " + text + " as a first part", first.kind(), SecdLisp.KIND_INT + i);
+                SecdLisp second = ran("(cons nil " + text + ")");
+                second.goCdr();
+                Check.same("kind of " + text + " as a second part", second.kind(), SecdLisp.KIND_INT + i);
+            }
+        }
+    }
+
+    // ---- promise 12 ----
+
+    private static void intAtTheCursor() {
+        Check.sentence("Promise 12", "intValue() answers the int at the cursor if kind() = KIND_INT");
+        for (int number : new int[] {Integer.MIN_VALUE, -1, 0, 1, 63, 64, 400, Integer.MAX_VALUE}) {
+            Check.same("intValue", ran("" + number).intValue(), number);
+            Check.same("intValue of a sum", ran("(add 0 " + number + ")").intValue(), number);
+            SecdLisp lisp = ran("(cons (quote (" + number + ")) (sub " + number + " 1))");
+            lisp.goCar();
+            lisp.goCar();
+            Check.same("intValue in a list", lisp.intValue(), number);
+            lisp.goRoot();
+            lisp.goCdr();
+            Check.same("intValue in a pair", lisp.intValue(), number - 1);
+        }
+    }
+
+    private static void noIntElsewhere() {
+        Check.sentence("Promise 12", "otherwise 0");
+        String[] texts = {
+            "nil", "(quote ())", "(cons 5 6)", "(quote (5 6))", "(lambda (a) 5)", "((lambda (a) (lambda () a)) 7)",
+        };
+        for (String text : texts) {
+            Check.same("intValue of " + text, ran(text).intValue(), 0);
+        }
+        for (String text : ERRORS) {
+            Check.same("intValue after " + text, failed(text).intValue(), 0);
+        }
+        Check.same("intValue without a run", Check.compiled(3, "5").intValue(), 0);
+    }
+
+    // ---- promise 13 ----
+
+    private static void arityAtTheCursor() {
+        Check.sentence("Promise 13", "closureArity() answers the parameter count (0..4) of the closure at the"
+            + " cursor if kind() = KIND_CLOSURE");
+        String[] lists = {"()", "(a)", "(a b)", "(a b c)", "(a b c d)"};
+        for (int count = 0; count <= 4; count++) {
+            String lambda = "(lambda " + lists[count] + " 1)";
+            Check.same("closureArity of " + lambda, ran(lambda).closureArity(), count);
+            Check.same("closureArity of a lam", ran("(letrec ((f " + lambda + ")) f)").closureArity(), count);
+            SecdLisp lisp = ran("(cons 1 " + lambda + ")");
+            lisp.goCdr();
+            Check.same("closureArity in a pair", lisp.closureArity(), count);
+        }
+    }
+
+    private static void noArityElsewhere() {
+        Check.sentence("Promise 13", "otherwise -1");
+        for (String text : new String[] {"0", "4", "nil", "(cons (lambda () 1) 2)", "(quote (1))"}) {
+            Check.same("closureArity of " + text, ran(text).closureArity(), -1);
+        }
+        for (String text : ERRORS) {
+            Check.same("closureArity after " + text, failed(text).closureArity(), -1);
+        }
+        Check.same("closureArity without a run", Check.compiled(3, "(lambda () 1)").closureArity(), -1);
+    }
+
+    // ---- promise 14 ----
+
+    private static void sourceAtTheCursor() {
+        Check.sentence("Promise 14", "closureSource() answers, if kind() = KIND_CLOSURE, the index (0-based, in the"
+            + " token list) of the '(' that opens the lambda form of that closure");
+        Check.same("the program", ran("(lambda () 1)").closureSource(), 0);
+        Check.same("an inner lambda", Check.show(ran("((lambda (a) (lambda (b c d) a)) 1)")), "fn3@6");
+        Check.same("a lambda in a let", Check.show(ran("(let ((a 1) (f (lambda () 2))) f)")), "fn0@9");
         Check.same("two closures of one form",
             Check.show(ran("(let ((f (lambda (a) (lambda () a)))) (cons (f 1) (f 2)))")), "[fn0@10 . fn0@10]");
-    }
-
-    private static void nothingElseChanges() {
-        SecdLisp lisp = ran("((lambda (a) (cons a a)) 1)");
-        for (int i = 0; i < 3; i++) {
-            lisp.goCar();
-            lisp.goCdr();
-            lisp.goRoot();
-            Check.same("status", lisp.status(), SecdLisp.OK);
-            Check.same("steps", lisp.steps(), 6);
-            Check.same("maxDepth", lisp.maxDepth(), 1);
-            Check.same("tokenCount", lisp.tokenCount(), 14);
-            Check.same("value", Check.show(lisp), "[1 . 1]");
+        Check.same("two like forms", Check.show(ran("(cons (lambda () 1) (lambda () 1))")), "[fn0@2 . fn0@8]");
+        Check.same("an argument", Check.show(ran("((lambda (f) f) (lambda (a) a))")), "fn1@8");
+        // Up to the greatest index that a lambda can begin at.
+        for (int numbers = 0; numbers <= 45; numbers++) {
+            String text = "(let ((a (quote (" + "1 ".repeat(numbers) + ")))) (lambda () 1))";
+            Check.same("closureSource in " + text, ran(text).closureSource(), 12 + numbers);
         }
-        Check.same("run again", lisp.run(400), SecdLisp.OK);
     }
 
-    private static void goneWithTheResult() {
+    private static void sourceOfALam() {
+        Check.sentence("Promise 14", "(for a LETREC lam, the '(' that opens that lam)");
+        String lams = "(letrec ((a (lambda () 1)) (b (lambda (x) 1)) (c (lambda (x y) 1)) (d (lambda (x y z) 1))) ";
+        int[] due = {5, 14, 24, 35};
+        for (int i = 0; i < due.length; i++) {
+            SecdLisp lisp = ran(lams + (char) ('a' + i) + ")");
+            Check.same("closureSource of lam " + i, lisp.closureSource(), due[i]);
+            Check.same("closureArity of lam " + i, lisp.closureArity(), i);
+        }
+        Check.same("a lam answered by itself", ran("(letrec ((f (lambda () f))) (f))").closureSource(), 5);
+    }
+
+    private static void noSourceElsewhere() {
+        Check.sentence("Promise 14", "otherwise -1");
+        for (String text : new String[] {"0", "7", "nil", "(cons (lambda () 1) 2)", "(quote (1))"}) {
+            Check.same("closureSource of " + text, ran(text).closureSource(), -1);
+        }
+        for (String text : ERRORS) {
+            Check.same("closureSource after " + text, failed(text).closureSource(), -1);
+        }
+        Check.same("closureSource without a run", Check.compiled(3, "(lambda () 1)").closureSource(), -1);
+    }
+
+    // ---- promise 15 ----
+
+    private static void goRootWithoutValue() {
+        Check.sentence("Promise 15", "goRoot() with no value answers false and changes nothing.");
+        for (int state = 0; state < States.COUNT; state++) {
+            if (States.status(state) != SecdLisp.OK) {
+                SecdLisp lisp = States.make(state);
+                Check.same("goRoot in the state '" + States.name(state) + "'", lisp.goRoot(), false);
+                Check.same("after goRoot in the state '" + States.name(state) + "'", States.future(lisp),
+                    States.future(States.make(state)));
+            }
+        }
+    }
+
+    private static void goRootFromAnywhere() {
+        Check.sentence("Promise 15", "Otherwise the cursor goes to the root of the value and the answer is true.");
+        for (String text : new String[] {"0", "nil", "(lambda () 1)", "(cons 1 2)"}) {
+            SecdLisp lisp = ran(text);
+            String root = States.now(lisp);
+            Check.same("goRoot at the root of " + text, lisp.goRoot(), true);
+            Check.same("still at the root of " + text, States.now(lisp), root);
+        }
+        String[] paths = {"", "a", "d", "aa", "ad", "da", "dd", "dda", "ddd", "ddda", "dddd"};
+        for (String path : paths) {
+            SecdLisp lisp = ran(TREE);
+            walk(lisp, path);
+            Check.same("goRoot from " + path, lisp.goRoot(), true);
+            Check.same("at the root from " + path, States.future(lisp), States.future(ran(TREE)));
+        }
+    }
+
+    private static void walk(SecdLisp lisp, String path) {
+        for (char turn : path.toCharArray()) {
+            Check.same("turn " + turn + " of " + path, turn == 'a' ? lisp.goCar() : lisp.goCdr(), true);
+        }
+    }
+
+    private static void valueNeverChanges() {
+        Check.sentence("Promise 15", "The value itself never changes.");
         SecdLisp lisp = ran(TREE);
-        lisp.goCdr();
-        Check.same("run again", lisp.run(400), SecdLisp.OK);
-        Check.same("cursor at root after run", lisp.goCar(), true);
-        Check.same("cursor at root after run", lisp.goCar(), true);
-        Check.same("cursor at root after run", lisp.intValue(), 5);
-        Check.same("run in want of fuel", lisp.run(1), SecdLisp.ERR_FUEL);
-        Check.noValue("want of fuel", lisp);
-        Check.same("run again", lisp.run(400), SecdLisp.OK);
-        lisp.goCar();
-        lisp.compile();
-        Check.noResult("compile", lisp);
-        lisp.run(400);
-        lisp.token(SecdLisp.TOK_NIL, 0);
-        Check.noResult("token", lisp);
-        lisp = ran(TREE);
-        lisp.clear();
-        Check.noResult("clear", lisp);
+        for (int turn = 0; turn < 5; turn++) {
+            Check.same("whole value", Check.show(lisp), "[[5 . nil] . [fn2@13 . [0 . [-3 . nil]]]]");
+            lisp.goRoot();
+            lisp.goCar();
+            lisp.goCar();
+            lisp.goCar();
+            lisp.token(0, 0);
+        }
+    }
+
+    // ---- promise 16 ----
+
+    /** Leaves and lacking values: where neither goCar nor goCdr can go. */
+    private static void refused(String name, boolean first) {
+        for (int state = 0; state < States.COUNT; state++) {
+            SecdLisp lisp = States.make(state);
+            if (lisp.kind() != SecdLisp.KIND_PAIR) {
+                Check.same(name + " in the state '" + States.name(state) + "'", first ? lisp.goCar() : lisp.goCdr(),
+                    false);
+                Check.same("after " + name + " in the state '" + States.name(state) + "'", States.future(lisp),
+                    States.future(States.make(state)));
+            }
+        }
+        for (String leaf : new String[] {"6", "0", "nil", "(quote ())", "(lambda (a) a)"}) {
+            for (String text : new String[] {leaf, "(cons 1 " + leaf + ")", "(cons 1 (cons 2 " + leaf + "))"}) {
+                SecdLisp lisp = ran(text);
+                SecdLisp twin = ran(text);
+                while (lisp.goCdr()) {
+                    twin.goCdr();
+                }
+                Check.same(name + " at the end of " + text, first ? lisp.goCar() : lisp.goCdr(), false);
+                Check.same("again", first ? lisp.goCar() : lisp.goCdr(), false);
+                Check.same("after " + name + " at the end of " + text, States.future(lisp), States.future(twin));
+            }
+        }
+    }
+
+    private static void goCarElsewhere() {
+        Check.sentence("Promise 16", "goCar(): if kind() is not KIND_PAIR, answers false and changes nothing.");
+        refused("goCar", true);
+    }
+
+    private static void goCarAtAPair() {
+        Check.sentence("Promise 16",
+            "Otherwise the cursor goes to the first part of that pair and the answer is true.");
+        SecdLisp lisp = ran("(cons (cons (quote (1 2)) 3) 4)");
+        Check.same("goCar", lisp.goCar(), true);
+        Check.same("kind", lisp.kind(), SecdLisp.KIND_PAIR);
+        Check.same("goCar", lisp.goCar(), true);
+        Check.same("kind", lisp.kind(), SecdLisp.KIND_PAIR);
+        Check.same("goCar in a quoted list", lisp.goCar(), true);
+        Check.same("intValue", lisp.intValue(), 1);
+    }
+
+    private static void goCdrElsewhere() {
+        Check.sentence("Promise 16", "goCdr(): if kind() is not KIND_PAIR, answers false and changes nothing.");
+        refused("goCdr", false);
+    }
+
+    private static void goCdrAtAPair() {
+        Check.sentence("Promise 16",
+            "Otherwise the cursor goes to the second part of that pair and the answer is true.");
+        SecdLisp lisp = ran("(cons 4 (cons 3 (quote (1 2))))");
+        Check.same("goCdr", lisp.goCdr(), true);
+        Check.same("goCdr", lisp.goCdr(), true);
+        Check.same("goCdr in a quoted list", lisp.goCdr(), true);
+        Check.same("kind", lisp.kind(), SecdLisp.KIND_PAIR);
+        Check.same("goCar in a quoted list", lisp.goCar(), true);
+        Check.same("intValue", lisp.intValue(), 2);
+        lisp.goRoot();
+        walk(lisp, "dddd");
+        Check.same("kind at the end", lisp.kind(), SecdLisp.KIND_NIL);
+    }
+
+    private static void movesAlterNothingElse() {
+        Check.sentence("Promise 16", "Neither alters the value, the status, steps or maxDepth.");
+        SecdLisp lisp = ran("((lambda (a) (cons a (cons a a))) 1)");
+        for (int turn = 0; turn < 3; turn++) {
+            lisp.goRoot();
+            String[] moves = {"d", "d", "d", "a"};
+            for (String move : moves) {
+                boolean moved = move.equals("a") ? lisp.goCar() : lisp.goCdr();
+                Check.same("status after " + move + moved, lisp.status(), SecdLisp.OK);
+                Check.same("steps after " + move, lisp.steps(), 8);
+                Check.same("maxDepth after " + move, lisp.maxDepth(), 1);
+                Check.same("tokenCount after " + move, lisp.tokenCount(), 18);
+            }
+            Check.same("value", Check.show(lisp), "[1 . [1 . 1]]");
+        }
+        for (String text : ERRORS) {
+            SecdLisp error = failed(text);
+            String due = States.now(error);
+            error.goCar();
+            error.goCdr();
+            Check.same("moves after " + text, States.now(error), due);
+        }
+    }
+
+    private static void nothingElseMoves() {
+        Check.sentence("Promise 16", "The cursor moves only through goRoot, goCar, goCdr and a run");
+        String[] paths = {"", "a", "d", "aa", "ad", "da", "dd", "ddda", "dddd"};
+        for (String path : paths) {
+            SecdLisp lisp = ran(TREE);
+            walk(lisp, path);
+            String due = States.now(lisp);
+            for (int turn = 0; turn < 3; turn++) {
+                lisp.token(0, 1);
+                lisp.token(21, 1);
+                Check.same("at " + path, States.now(lisp), due);
+            }
+            SecdLisp twin = ran(TREE);
+            walk(twin, path);
+            Check.same("future at " + path, States.future(lisp), States.future(twin));
+            SecdLisp again = ran(TREE);
+            walk(again, path);
+            again.run(400);
+            Check.same("a run from " + path, States.future(again), States.future(ran(TREE)));
+        }
+    }
+
+    private static void cursorGoesWithTheResult() {
+        Check.sentence("Promise 16", "it disappears with the value whenever the run result is cleared.");
+        for (String path : new String[] {"", "a", "d", "aa"}) {
+            SecdLisp lisp = ran(TREE);
+            walk(lisp, path);
+            lisp.compile();
+            Check.noResult("compile at " + path, lisp);
+            lisp.run(400);
+            walk(lisp, path);
+            lisp.token(SecdLisp.TOK_NIL, 0);
+            Check.noResult("token at " + path, lisp);
+            lisp = ran(TREE);
+            walk(lisp, path);
+            lisp.clear();
+            Check.noResult("clear at " + path, lisp);
+            lisp = ran(TREE);
+            walk(lisp, path);
+            Check.same("run in want of fuel", lisp.run(1), SecdLisp.ERR_FUEL);
+            Check.noValue("want of fuel at " + path, lisp);
+        }
+    }
+
+    /** The longest and deepest values that a program can make are walked to their ends. */
+    private static void longWalks() {
+        Check.sentence("Promise 16",
+            "Otherwise the cursor goes to the second part of that pair and the answer is true.");
+        SecdLisp list = ran(States.FULL);
+        int length = 0;
+        while (list.goCdr()) {
+            length++;
+        }
+        Check.same("length of the longest quoted list", length, 59);
+        Check.same("kind at its end", list.kind(), SecdLisp.KIND_NIL);
+        SecdLisp nested = ran("(quote " + "(".repeat(30) + ")".repeat(30) + ")");
+        int depth = 0;
+        while (nested.goCar()) {
+            depth++;
+        }
+        Check.same("depth of the deepest datum", depth, 29);
+        // Each level doubles the tree, so it has far more ends than there were steps.
+        SecdLisp doubled = Check.ran(32,
+            "(letrec ((f (lambda (n) (if n (let ((a (f (sub n 1)))) (cons a a)) (cons 1 2))))) (f 20))");
+        for (int path : new int[] {0, 1, 0x155555, 0xaaaaa, 0xfffff, 0x100000, 0x1fffff}) {
+            doubled.goRoot();
+            for (int bit = 0; bit <= 20; bit++) {
+                Check.same("turn " + bit, (path >> bit & 1) == 0 ? doubled.goCar() : doubled.goCdr(), true);
+            }
+            Check.same("end of path " + path, doubled.intValue(), path >> 20 == 0 ? 1 : 2);
+            Check.same("no further", doubled.goCar() || doubled.goCdr(), false);
+        }
+        SecdLisp chain = Check.ran(32, "(letrec ((f (lambda (n) (if n (cons n (f (sub n 1))) n)))) (f 31))");
+        for (int n = 31; n > 0; n--) {
+            Check.same("goCar", chain.goCar(), true);
+            Check.same("element", chain.intValue(), n);
+            chain.goRoot();
+            for (int i = n; i <= 31; i++) {
+                Check.same("goCdr", chain.goCdr(), true);
+            }
+        }
+        Check.same("end of the chain", chain.intValue() == 0 && chain.kind() == SecdLisp.KIND_INT, true);
     }
 }

@@ -33,7 +33,8 @@ final class FaceTest {
         Set<String> fields = new TreeSet<>();
         for (Field field : SecdLisp.class.getDeclaredFields()) {
             if (!Modifier.isPrivate(field.getModifiers())) {
-                Check.same("modifiers of " + field.getName(), Modifier.toString(field.getModifiers()), "public static final");
+                Check.same("modifiers of " + field.getName(), Modifier.toString(field.getModifiers()),
+                    "public static final");
                 Check.same("type of " + field.getName(), field.getType().getName(), "int");
                 fields.add(field.getName() + "=" + field.getInt(null));
             }

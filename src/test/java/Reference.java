@@ -48,9 +48,9 @@ final class Reference {
         }
     }
 
-    private static final Object NIL = "nil";
+    static final Object NIL = "nil";
 
-    private static final class Pair {
+    static final class Pair {
         final Object first;
         final Object second;
 
@@ -60,13 +60,21 @@ final class Reference {
         }
     }
 
-    private static final class Closure {
-        final Item form;
-        final Env env;
+    static final class Closure {
+        private final Item form;
+        private final Env env;
 
         Closure(Item form, Env env) {
             this.form = form;
             this.env = env;
+        }
+
+        int arity() {
+            return form.item(1).size();
+        }
+
+        int source() {
+            return form.at;
         }
     }
 
@@ -77,9 +85,13 @@ final class Reference {
     private boolean unbound;
     private Item program;
     private int fuel;
-    private int steps;
     private int active;
-    private int maxDepth;
+
+    /** What the last run recorded; there is no value after an error. */
+    int status;
+    int steps;
+    int maxDepth;
+    Object value;
 
     Reference(int depthLimit, int[] kinds, int[] values) {
         this.depthLimit = depthLimit;
@@ -101,20 +113,24 @@ final class Reference {
         }
     }
 
-    /** The outcome, steps, greatest depth and value of a run, in one line. */
-    String outcome(int givenFuel) {
+    void run(int givenFuel) {
         fuel = Math.max(1, Math.min(400, givenFuel));
         steps = 0;
         active = 0;
         maxDepth = 0;
-        String end;
+        value = null;
+        status = SecdLisp.OK;
         try {
-            Object value = eval(program, null);
-            end = "0 " + show(value);
+            value = eval(program, null);
         } catch (Stop stop) {
-            end = stop.outcome + " none";
+            status = stop.outcome;
         }
-        return end + " steps " + steps + " depth " + maxDepth;
+    }
+
+    /** The status, value, steps and greatest depth of a run, in one line. */
+    String outcome(int givenFuel) {
+        run(givenFuel);
+        return status + " " + (value == null ? "none" : show(value)) + " steps " + steps + " depth " + maxDepth;
     }
 
     private static void require(boolean holds) {
@@ -351,7 +367,7 @@ final class Reference {
         }
         if (value instanceof Closure) {
             Closure closure = (Closure) value;
-            return "fn" + closure.form.item(1).size() + "@" + closure.form.at;
+            return "fn" + closure.arity() + "@" + closure.source();
         }
         return value.toString();
     }

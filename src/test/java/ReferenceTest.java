@@ -66,7 +66,8 @@ final class ReferenceTest {
             }
             String expected = reference.outcome(fuel);
             if (expected.length() < 2000) {
-                String got = answered + " " + Check.show(lisp) + " steps " + lisp.steps() + " depth " + lisp.maxDepth();
+                String got = answered + " " + Check.show(lisp) + " steps " + lisp.steps() + " depth "
+                    + lisp.maxDepth();
                 Check.same("run(" + fuel + ") under limit " + limit + " of " + text(), got, expected);
             }
         }

@@ -1,273 +1,436 @@
-/** Promises 7 to 10: run, status, steps and maxDepth, with the evaluation rules. */
+/** Promises 7 to 10, sentence by sentence: run, status, steps and maxDepth. */
 final class RunTest {
+    private static final int[] LOW_FUELS = {Integer.MIN_VALUE, -65536, -400, -1, 0};
+    private static final int[] HIGH_FUELS = {401, 402, 800, 65536 + 7, Integer.MAX_VALUE};
+
+    /** The calls double from level to level, so the fuel ends while the depth is still small. */
+    private static final String WIDE =
+        "(letrec ((f (lambda (n) (if n (let ((a (f (sub n 1)))) (f (sub n 1))) 0)))) (f 9))";
+
+    /** Takes 398 steps: 15 for each n from 26 down to 1, 3 for the last, and 5 to begin with. */
+    private static final String LONG =
+        "(letrec ((f (lambda (n) (if n (add (add 0 (add 0 0)) (add n (f (sub n 1)))) 0)))) (f 26))";
+
+    /** Programs that end with each of the outcomes, some deep inside calls. */
+    private static final String[] TEXTS = {
+        "7", "(quote (1 (2 nil)))", "(lambda (a) a)",
+        "(letrec ((f (lambda (n) (if n (cons n (f (sub n 1))) (lambda (a) f))))) (f 5))",
+        "(letrec ((f (lambda (n) (if n (add n (f (sub n 1))) 0)))) (f 31))",
+        "(letrec ((f (lambda (n) (if n (add n (f (sub n 1))) nil)))) (f 5))",
+        "(let ((a (quote (1 2)))) (div (car a) (sub (car (cdr a)) 2)))",
+        "(letrec ((f (lambda (n) (f n)))) (f 1))", "((lambda (a) (a 1)) 2)",
+        "((lambda (a) (a)) (lambda (b) b))", WIDE,
+    };
+
     public static void main(String[] args) {
-        literals();
-        arithmetic();
-        typeErrors();
-        listsAndBranches();
-        bindings();
-        recursion();
-        applications();
-        order();
-        depth();
-        fuelClamp();
-        fuelLaw();
+        lowFuelBecomesOne();
+        highFuelBecomesFourHundred();
+        fuelBetweenIsKept();
+        noProgram();
         runsAreFresh();
-        room();
+        statusOfEachOutcome();
+        stepsAtTheEnd();
+        stepsAfterWantOfFuel();
+        depthWithoutCalls();
+        depthNeverMoreThanTheLimit();
+        valueIsKeptAndCursorAtRoot();
+        errorLeavesNoValue();
+        programAndTokensStay();
+        answerIsTheStatus();
+        outcomeDependsOnNothingElse();
+        enoughFuelIsEnough();
+        wantOfFuelIsWantOfLess();
+
+        statusOfTheLastRun();
+        noStatusWithoutResult();
+        askingChangesNothing("Promise 8", "status", SecdLisp::status);
+        stepsOfTheLastRun();
+        askingChangesNothing("Promise 9", "steps", SecdLisp::steps);
+        maxDepthOfTheLastRun();
+        askingChangesNothing("Promise 10", "maxDepth", SecdLisp::maxDepth);
         Check.end();
     }
 
-    /** Runs with all the fuel there is; due is the value's text, or "error n". */
-    private static void gives(int limit, String text, String due, int steps, int maxDepth) {
-        SecdLisp lisp = Check.compiled(limit, text);
-        int answered = lisp.run(400);
-        String got = answered == SecdLisp.OK ? Check.show(lisp) : "error " + answered;
-        Check.same("run of " + text, got, due);
-        Check.same("status of " + text, lisp.status(), answered);
-        Check.same("steps of " + text, lisp.steps(), steps);
-        Check.same("maxDepth of " + text, lisp.maxDepth(), maxDepth);
-        if (answered != SecdLisp.OK) {
-            Check.noValue("error of " + text, lisp);
-        }
-    }
+    // ---- promise 7 ----
 
-    private static void literals() {
-        gives(1, "5", "5", 1, 0);
-        gives(1, "-2147483648", "-2147483648", 1, 0);
-        gives(1, "nil", "nil", 1, 0);
-        gives(1, "(quote 5)", "5", 1, 0);
-        gives(1, "(quote nil)", "nil", 1, 0);
-        gives(1, "(quote ())", "nil", 1, 0);
-        gives(1, "(quote (()))", "[nil . nil]", 1, 0);
-        gives(1, "(quote (1))", "[1 . nil]", 1, 0);
-        gives(1, "(quote (1 (2 nil) () 3))", "[1 . [[2 . [nil . nil]] . [nil . [3 . nil]]]]", 1, 0);
-        gives(1, "(quote ((1 2) (3)))", "[[1 . [2 . nil]] . [[3 . nil] . nil]]", 1, 0);
-        gives(1, "(cons (quote (1)) (quote (2)))", "[[1 . nil] . [2 . nil]]", 3, 0);
-        gives(1, "(lambda () (car 1))", "fn0@0", 1, 0);
-        gives(1, "(lambda (a b c d) a)", "fn4@0", 1, 0);
-    }
-
-    private static void arithmetic() {
-        gives(1, "(add 2 3)", "5", 3, 0);
-        gives(1, "(add 2147483647 1)", "-2147483648", 3, 0);
-        gives(1, "(sub 2 3)", "-1", 3, 0);
-        gives(1, "(sub -2147483648 1)", "2147483647", 3, 0);
-        gives(1, "(mul 6 -7)", "-42", 3, 0);
-        gives(1, "(mul 65536 65536)", "0", 3, 0);
-        gives(1, "(mul 65537 65537)", "131073", 3, 0);
-        gives(1, "(div 7 2)", "3", 3, 0);
-        gives(1, "(div -7 2)", "-3", 3, 0);
-        gives(1, "(div 7 -2)", "-3", 3, 0);
-        gives(1, "(div -7 -2)", "3", 3, 0);
-        gives(1, "(div 0 5)", "0", 3, 0);
-        gives(1, "(div -2147483648 -1)", "-2147483648", 3, 0);
-        gives(1, "(div 1 0)", "error 7", 3, 0);
-        gives(1, "(div 0 0)", "error 7", 3, 0);
-        gives(1, "(eq 4 4)", "1", 3, 0);
-        gives(1, "(eq 4 5)", "0", 3, 0);
-        gives(1, "(eq -2147483648 2147483647)", "0", 3, 0);
-        gives(1, "(lt 4 5)", "1", 3, 0);
-        gives(1, "(lt 5 5)", "0", 3, 0);
-        gives(1, "(lt 6 5)", "0", 3, 0);
-        gives(1, "(lt -2147483648 2147483647)", "1", 3, 0);
-        gives(1, "(lt 2147483647 -2147483648)", "0", 3, 0);
-        gives(1, "(add (mul 2 3) (sub 9 4))", "11", 7, 0);
-    }
-
-    private static void typeErrors() {
-        String[] operators = {"add", "sub", "mul", "div", "eq", "lt"};
-        String[] others = {"nil", "(quote (1))", "(lambda () 1)"};
-        for (String operator : operators) {
-            for (String other : others) {
-                gives(1, "(" + operator + " " + other + " 1)", "error 6", 3, 0);
-                gives(1, "(" + operator + " 1 " + other + ")", "error 6", 3, 0);
-                gives(1, "(" + operator + " " + other + " 0)", "error 6", 3, 0);
-                gives(1, "(" + operator + " " + other + " " + other + ")", "error 6", 3, 0);
+    private static void lowFuelBecomesOne() {
+        Check.sentence("Promise 7", "fuel is clamped into 1..MAX_FUEL (below 1 becomes 1");
+        for (int fuel : LOW_FUELS) {
+            SecdLisp lisp = Check.compiled(1, "7");
+            Check.same("run(" + fuel + ") of one step", lisp.run(fuel), SecdLisp.OK);
+            Check.same("steps", lisp.steps(), 1);
+            lisp = Check.compiled(1, "(null nil)");
+            Check.same("run(" + fuel + ") of two steps", lisp.run(fuel), SecdLisp.ERR_FUEL);
+            Check.same("steps", lisp.steps(), 1);
+            for (String text : TEXTS) {
+                sameRuns(text, fuel, 1);
             }
-            gives(1, "(" + operator + " nil (div 1 0))", "error 7", 5, 0);
-            gives(1, "(" + operator + " nil (1))", "error 8", 4, 0);
-            gives(1, "(" + operator + " (1) (div 1 0))", "error 8", 3, 0);
         }
-        String[] parts = {"car", "cdr"};
-        for (String part : parts) {
-            gives(1, "(" + part + " 1)", "error 6", 2, 0);
-            gives(1, "(" + part + " nil)", "error 6", 2, 0);
-            gives(1, "(" + part + " (lambda () 1))", "error 6", 2, 0);
-        }
-        gives(1, "(if nil 1 2)", "error 6", 2, 0);
-        gives(1, "(if (quote (1)) 1 2)", "error 6", 2, 0);
-        gives(1, "(if (lambda () 1) 1 2)", "error 6", 2, 0);
     }
 
-    private static void listsAndBranches() {
-        gives(1, "(cons 1 2)", "[1 . 2]", 3, 0);
-        gives(1, "(cons nil (lambda (a) a))", "[nil . fn1@3]", 3, 0);
-        gives(1, "(car (cons 1 2))", "1", 4, 0);
-        gives(1, "(cdr (cons 1 2))", "2", 4, 0);
-        gives(1, "(car (cdr (quote (1 2 3))))", "2", 3, 0);
-        gives(1, "(cdr (quote (1)))", "nil", 2, 0);
-        gives(1, "(cons (div 1 0) (car 1))", "error 7", 4, 0);
-        gives(1, "(null nil)", "1", 2, 0);
-        gives(1, "(null (quote ()))", "1", 2, 0);
-        gives(1, "(null 0)", "0", 2, 0);
-        gives(1, "(null (cons nil nil))", "0", 4, 0);
-        gives(1, "(null (lambda () nil))", "0", 2, 0);
-        gives(1, "(if 1 2 3)", "2", 3, 0);
-        gives(1, "(if -1 2 3)", "2", 3, 0);
-        gives(1, "(if 0 2 3)", "3", 3, 0);
-        gives(1, "(if 1 2 (car 1))", "2", 3, 0);
-        gives(1, "(if 0 (car 1) (cons 2 3))", "[2 . 3]", 5, 0);
-    }
-
-    private static void bindings() {
-        gives(1, "(let ((a 1)) a)", "1", 3, 0);
-        gives(1, "(let ((a 1) (b 2) (c 3) (d 4)) (cons a (cons b (cons c d))))",
-            "[1 . [2 . [3 . 4]]]", 12, 0);
-        gives(1, "(let ((a 1)) (let ((a 2) (b a)) (cons a b)))", "[2 . 1]", 8, 0);
-        gives(1, "(let ((a 1)) (cons (let ((a 2)) a) a))", "[2 . 1]", 7, 0);
-        gives(1, "(let ((a (car 1)) (b (div 1 0))) 1)", "error 6", 3, 0);
-        gives(1, "(let ((a 1) (b (div 1 0))) 1)", "error 7", 5, 0);
-        gives(3, "(let ((a 1)) (let ((f (lambda () a))) (let ((a 2)) (f))))", "1", 9, 1);
-        gives(1, "(letrec ((f (lambda () 1)) (g (lambda (a) 2))) (cons f g))", "[fn0@5 . fn1@14]", 6, 0);
-        gives(2, "(letrec ((f (lambda () 1)) (g (lambda () (f)))) (g))", "1", 8, 2);
-        gives(2, "(letrec ((f (lambda () (g))) (g (lambda () 1))) (f))", "1", 8, 2);
-        gives(1, "(let ((f 9)) (letrec ((f (lambda () f))) (f)))", "fn0@13", 7, 1);
-        gives(1, "(let ((f (lambda () 9))) (let ((f (lambda () (f)))) (f)))", "error 5", 8, 1);
-        gives(2, "(let ((f (lambda () 9))) (let ((f (lambda () (f)))) (f)))", "9", 9, 2);
-        gives(1, "(letrec ((f (lambda (f) f))) (f 3))", "3", 6, 1);
-        gives(4, "(letrec ((a (lambda () (d))) (b (lambda () (a))) (c (lambda () (b))) (d (lambda () a))) (c))",
-            "fn0@5", 14, 4);
-    }
-
-    private static void recursion() {
-        String sum = "(letrec ((f (lambda (n) (if n (add n (f (sub n 1))) 0)))) (f %d))";
-        gives(32, String.format(sum, 0), "0", 8, 1);
-        gives(32, String.format(sum, 10), "55", 98, 11);
-        gives(32, String.format(sum, 31), "496", 287, 32);
-        gives(32, String.format(sum, 32), "error 5", 293, 32);
-        gives(1, String.format(sum, 1), "error 5", 14, 1);
-        gives(32, "(letrec ((e (lambda (n) (if n (o (sub n 1)) 1))) (o (lambda (n) (if n (e (sub n 1)) 0))))"
-            + " (e 7))", "0", 58, 8);
-    }
-
-    private static void applications() {
-        gives(1, "((lambda () 7))", "7", 3, 1);
-        gives(1, "((lambda (a b c d) (cons a (cons b (cons c d)))) 1 2 3 4)", "[1 . [2 . [3 . 4]]]", 13, 1);
-        gives(1, "(1)", "error 8", 2, 0);
-        gives(1, "(nil)", "error 8", 2, 0);
-        gives(1, "((quote (1)) 2)", "error 8", 3, 0);
-        gives(1, "((lambda () 1) 2)", "error 9", 3, 0);
-        gives(1, "((lambda (a) 1))", "error 9", 2, 0);
-        gives(1, "((lambda (a b c d) 1) 1 2 3)", "error 9", 5, 0);
-        gives(1, "((lambda (a b c) 1) 1 2 3 4)", "error 9", 6, 0);
-        gives(1, "(((lambda (a) (lambda (b) (sub a b))) 9) 2)", "7", 9, 1);
-        gives(2, "((lambda (f) (f f)) (lambda (f) 3))", "3", 7, 2);
-        gives(1, "((lambda (a) (lambda () a)) 1)", "fn0@6", 4, 1);
-    }
-
-    private static void order() {
-        // The operands come before the operator, and left before right.
-        gives(1, "((car 1) (div 1 0))", "error 7", 4, 0);
-        gives(1, "((div 1 0) 1 (car 1))", "error 6", 4, 0);
-        gives(1, "(1 (car 1) (div 1 0))", "error 6", 3, 0);
-        // Not a closure, then the wrong count, then too deep.
-        gives(1, "((lambda () (1)))", "error 8", 4, 1);
-        gives(1, "((lambda () ((lambda (a) 1))))", "error 9", 4, 1);
-        gives(1, "((lambda () ((lambda () 1))))", "error 5", 4, 1);
-    }
-
-    private static void depth() {
-        // The count falls again: sequences are not nesting, nor are let and letrec.
-        gives(1, "(cons ((lambda () 1)) ((lambda () 2)))", "[1 . 2]", 7, 1);
-        gives(2, "((lambda (a) ((lambda (b) (add a b)) 2)) ((lambda () 1)))", "3", 11, 2);
-        gives(1, "((lambda (a) a) ((lambda (a) a) ((lambda (a) a) 5)))", "5", 10, 1);
-        gives(1, "(let ((a 1)) (let ((b 2)) (letrec ((f (lambda () b))) (f))))", "2", 9, 1);
-        gives(3, "(cons ((lambda () ((lambda () 1)))) ((lambda () 2)))", "[1 . 2]", 9, 2);
-        gives(1, "(let ((f (lambda () 1))) (cons (f) (cons (f) (f))))", "[1 . [1 . 1]]", 13, 1);
-    }
-
-    private static void fuelClamp() {
-        int[] low = {Integer.MIN_VALUE, -400, -1, 0, 1};
-        for (int fuel : low) {
-            SecdLisp lisp = Check.compiled(1, "(null nil)");
+    private static void highFuelBecomesFourHundred() {
+        Check.sentence("Promise 7", "above 400 becomes 400");
+        for (int fuel : HIGH_FUELS) {
+            SecdLisp lisp = Check.compiled(32, WIDE);
             Check.same("run(" + fuel + ")", lisp.run(fuel), SecdLisp.ERR_FUEL);
-            Check.same("steps", lisp.steps(), 1);
-            Check.noValue("run(" + fuel + ")", lisp);
-            lisp = Check.compiled(1, "7");
-            Check.same("run(" + fuel + ") of 7", lisp.run(fuel), SecdLisp.OK);
-            Check.same("steps", lisp.steps(), 1);
+            Check.same("steps of run(" + fuel + ")", lisp.steps(), 400);
+            for (String text : TEXTS) {
+                sameRuns(text, fuel, 400);
+            }
         }
-        // The calls double from level to level, so the fuel ends while the depth is still small.
-        String wide = "(letrec ((f (lambda (n) (if n (let ((a (f (sub n 1)))) (f (sub n 1))) 0)))) (f 9))";
-        int[] high = {399, 400, 401, 1000, Integer.MAX_VALUE};
-        int[] due = {399, 400, 400, 400, 400};
-        for (int i = 0; i < high.length; i++) {
-            SecdLisp lisp = Check.compiled(32, wide);
-            Check.same("run(" + high[i] + ")", lisp.run(high[i]), SecdLisp.ERR_FUEL);
-            Check.same("steps of run(" + high[i] + ")", lisp.steps(), due[i]);
-            Check.same("maxDepth of run(" + high[i] + ")", lisp.maxDepth(), 10);
+        // The greatest fuel is just enough for 400 steps, and not for one more.
+        SecdLisp enough = Check.compiled(32, "(null (null " + LONG + "))");
+        Check.same("run of 400 steps", enough.run(401), SecdLisp.OK);
+        Check.same("steps", enough.steps(), 400);
+        SecdLisp tooMany = Check.compiled(32, "(null (null (null " + LONG + ")))");
+        Check.same("run of 401 steps", tooMany.run(401), SecdLisp.ERR_FUEL);
+        Check.same("steps", tooMany.steps(), 400);
+    }
+
+    private static void fuelBetweenIsKept() {
+        Check.sentence("Promise 7", "fuel is clamped into 1..MAX_FUEL");
+        SecdLisp lisp = Check.compiled(32, WIDE);
+        for (int fuel = 1; fuel <= 400; fuel++) {
+            Check.same("run(" + fuel + ")", lisp.run(fuel), SecdLisp.ERR_FUEL);
+            Check.same("steps of run(" + fuel + ")", lisp.steps(), fuel);
         }
     }
 
-    private static void fuelLaw() {
-        String[] texts = {
-            "(letrec ((f (lambda (n) (if n (cons n (f (sub n 1))) (lambda (a) f))))) (f 5))",
-            "(letrec ((f (lambda (n) (if n (add n (f (sub n 1))) nil)))) (f 5))",
-            "(let ((a (quote (1 2)))) (div (car a) (sub (car (cdr a)) 2)))",
-            "(letrec ((f (lambda (n) (f n)))) (f 1))",
-        };
-        for (String text : texts) {
-            SecdLisp lisp = Check.compiled(9, text);
-            int answered = lisp.run(400);
-            int steps = lisp.steps();
-            int deepest = lisp.maxDepth();
-            String value = Check.show(lisp);
-            for (int fuel = 1; fuel <= 400; fuel++) {
-                Check.same("run(" + fuel + ") of " + text, lisp.run(fuel),
-                    fuel < steps ? SecdLisp.ERR_FUEL : answered);
-                Check.same("steps", lisp.steps(), fuel < steps ? fuel : steps);
-                Check.same("value", Check.show(lisp), fuel < steps ? "none" : value);
-                if (fuel >= steps) {
-                    Check.same("maxDepth", lisp.maxDepth(), deepest);
+    private static void sameRuns(String text, int fuel, int other) {
+        SecdLisp lisp = Check.compiled(9, text);
+        SecdLisp twin = Check.compiled(9, text);
+        Check.same("run(" + fuel + ") of " + text, lisp.run(fuel), twin.run(other));
+        Check.same("after run(" + fuel + ") of " + text, States.future(lisp), States.future(twin));
+    }
+
+    private static void noProgram() {
+        Check.sentence("Promise 7", "If no program is present, it answers ERR_NOPROG and changes nothing.");
+        int met = 0;
+        for (int state = 0; state < States.COUNT; state++) {
+            for (int fuel : new int[] {Integer.MIN_VALUE, 0, 1, 400, Integer.MAX_VALUE}) {
+                SecdLisp lisp = States.make(state);
+                boolean absent = lisp.run(fuel) == SecdLisp.ERR_NOPROG;
+                met += absent ? 1 : 0;
+                Check.same("ERR_NOPROG in the state '" + States.name(state) + "'", absent, States.noProgram(state));
+                if (absent) {
+                    Check.noResult("run in the state '" + States.name(state) + "'", lisp);
+                    Check.same("after run in the state '" + States.name(state) + "'", States.future(lisp),
+                        States.future(States.make(state)));
                 }
             }
         }
+        Check.same("states without a program were met", met > 0, true);
     }
 
     private static void runsAreFresh() {
-        SecdLisp lisp = Check.compiled(4, "(letrec ((f (lambda (n) (if n (cons n (f (sub n 1))) nil)))) (f 3))");
-        for (int i = 0; i < 1000; i++) {
-            Check.same("run", lisp.run(400), SecdLisp.OK);
-            Check.same("steps", lisp.steps(), 35);
-            Check.same("maxDepth", lisp.maxDepth(), 4);
-            Check.same("kind", lisp.kind(), SecdLisp.KIND_PAIR);
-            lisp.goCdr();
-            Check.same("run with little fuel", lisp.run(30), SecdLisp.ERR_FUEL);
-            Check.noValue("little fuel", lisp);
+        Check.sentence("Promise 7", "Otherwise it evaluates the program afresh as in Evaluation, with the clamped"
+            + " fuel and depthLimit(); earlier runs have no effect on it.");
+        for (String text : TEXTS) {
+            SecdLisp fresh = Check.compiled(9, text);
+            fresh.run(400);
+            String due = States.now(fresh) + Check.show(fresh);
+            SecdLisp lisp = Check.compiled(9, text);
+            for (int fuel = 0; fuel <= 401; fuel++) {
+                lisp.run(fuel);
+                lisp.goCdr();
+                lisp.run(400);
+                Check.same("run after run(" + fuel + ") of " + text, States.now(lisp) + Check.show(lisp), due);
+            }
         }
-        Check.same("run at last", lisp.run(400), SecdLisp.OK);
-        Check.same("value at last", Check.show(lisp), "[3 . [2 . [1 . nil]]]");
-        Check.same("tokenCount after runs", lisp.tokenCount(), 35);
     }
 
-    /** Programs that use as much room of each sort as 400 steps allow. */
-    private static void room() {
+    private static void statusOfEachOutcome() {
+        Check.sentence("Promise 7", "status: OK, or the error that stopped the run"
+            + " (ERR_FUEL, ERR_DEPTH, ERR_TYPE, ERR_DIV, ERR_APPLY or ERR_ARITY)");
+        int[] due = {0, 0, 0, 0, 5, 6, 7, 5, 8, 9, 4};
+        for (int i = 0; i < TEXTS.length; i++) {
+            SecdLisp lisp = Check.compiled(10, TEXTS[i]);
+            Check.same("run of " + TEXTS[i], lisp.run(400), due[i]);
+            Check.same("status of " + TEXTS[i], lisp.status(), due[i]);
+        }
+    }
+
+    private static void stepsAtTheEnd() {
+        Check.sentence("Promise 7", "steps: the step counter when the run ended");
+        int[] due = {1, 1, 1, 53, 95, 53, 10, 35, 6, 5, 400};
+        for (int i = 0; i < TEXTS.length; i++) {
+            SecdLisp lisp = Check.compiled(10, TEXTS[i]);
+            lisp.run(400);
+            Check.same("steps of " + TEXTS[i], lisp.steps(), due[i]);
+        }
+    }
+
+    private static void stepsAfterWantOfFuel() {
+        Check.sentence("Promise 7", "after ERR_FUEL this equals the clamped fuel");
+        int[] given = {Integer.MIN_VALUE, -1, 0, 1, 2, 3, 399, 400, 401, Integer.MAX_VALUE};
+        int[] due = {1, 1, 1, 1, 2, 3, 399, 400, 400, 400};
+        for (int i = 0; i < given.length; i++) {
+            SecdLisp lisp = Check.compiled(32, WIDE);
+            Check.same("run(" + given[i] + ")", lisp.run(given[i]), SecdLisp.ERR_FUEL);
+            Check.same("steps", lisp.steps(), due[i]);
+        }
+    }
+
+    private static void depthWithoutCalls() {
+        Check.sentence("Promise 7", "maxDepth: the greatest active count reached, 0 if no closure was entered");
         String[] texts = {
-            "(letrec ((f (lambda () (let ((a 1) (b 2) (c 3) (d 4)) (let ((a 1) (b 2) (c 3) (d 4)) (f)))))) (f))",
-            "(letrec ((f (lambda (a b c d) (let ((e (f 1 2 3 4))) e)))) (f 1 2 3 4))",
-            "(letrec ((f (lambda () (add (f) 1)))) (f))",
-            "(letrec ((f (lambda (n) (let ((q (quote (1 2 3 4 5 6 7 8 9))) (m (sub n 1))) (if m (cons q (f m)) q)))))"
-                + " (f 30))",
-            "(letrec ((f (lambda (n) (if n (let ((a (f (sub n 1))) (b (f (sub n 1)))) (cons a b)) nil)))) (f 31))",
-            "(letrec ((f (lambda (n) (letrec ((g (lambda () 1)) (h (lambda () 1)) (i (lambda () 1)))"
-                + " (if n (f (sub n 1)) g))))) (f 31))",
+            "7", "(quote (1))", "(lambda () 1)", "(let ((a 1)) a)", "(letrec ((f (lambda () 1))) f)", "(1)",
+            "((lambda (a) a))", "((lambda () 1) 2)", "(car 1)", "(div 1 0)", "((lambda (a) a) (car 1))",
         };
         for (String text : texts) {
-            SecdLisp lisp = Check.compiled(32, text);
-            int answered = lisp.run(400);
-            boolean expected = answered == SecdLisp.OK || answered == SecdLisp.ERR_FUEL
-                || answered == SecdLisp.ERR_DEPTH;
-            Check.same("room for " + text + " (" + answered + ")", expected, true);
+            SecdLisp lisp = Check.compiled(1, text);
+            lisp.run(400);
+            Check.same("maxDepth of " + text, lisp.maxDepth(), 0);
         }
+        // Just before the body is begun the closure is entered already.
+        SecdLisp lisp = Check.compiled(3, "((lambda () ((lambda () 1))))");
+        int[] due = {0, 1, 1, 2, 2};
+        for (int fuel = 1; fuel <= 5; fuel++) {
+            lisp.run(fuel);
+            Check.same("maxDepth of run(" + fuel + ")", lisp.maxDepth(), due[fuel - 1]);
+        }
+        // It is the greatest reached, not the last.
+        Check.same("maxDepth of deep then shallow",
+            Check.ran(9, "(cons ((lambda () ((lambda () 1)))) ((lambda () 2)))").maxDepth(), 2);
+    }
+
+    private static void depthNeverMoreThanTheLimit() {
+        Check.sentence("Promise 7", "never more than depthLimit()");
+        for (String text : TEXTS) {
+            for (int limit = 1; limit <= 32; limit++) {
+                SecdLisp lisp = Check.compiled(limit, text);
+                for (int fuel = 0; fuel <= 401; fuel++) {
+                    lisp.run(fuel);
+                    Check.same("maxDepth within the limit", lisp.maxDepth() <= lisp.depthLimit(), true);
+                }
+            }
+        }
+        for (int limit = 1; limit <= 32; limit++) {
+            SecdLisp lisp = Check.compiled(limit, States.LOOP);
+            Check.same("run", lisp.run(400), SecdLisp.ERR_DEPTH);
+            Check.same("maxDepth after ERR_DEPTH", lisp.maxDepth(), limit);
+        }
+    }
+
+    private static void valueIsKeptAndCursorAtRoot() {
+        Check.sentence("Promise 7", "On OK the value is kept and the cursor is placed at its root.");
+        SecdLisp lisp = Check.compiled(3, "(cons (cons 1 2) 3)");
+        for (int turn = 0; turn < 3; turn++) {
+            Check.same("run", lisp.run(400), SecdLisp.OK);
+            Check.same("kind at the root", lisp.kind(), SecdLisp.KIND_PAIR);
+            Check.same("goCdr from the root", lisp.goCdr(), true);
+            Check.same("second part of the root", lisp.intValue(), 3);
+            Check.same("run", lisp.run(400), SecdLisp.OK);
+            Check.same("goCar from the root", lisp.goCar(), true);
+            Check.same("goCdr", lisp.goCdr(), true);
+            Check.same("second part of the first part", lisp.intValue(), 2);
+        }
+        Check.same("the value stays", Check.show(lisp), "[[1 . 2] . 3]");
+        Check.same("the value stays again", Check.show(lisp), "[[1 . 2] . 3]");
+    }
+
+    private static void errorLeavesNoValue() {
+        Check.sentence("Promise 7", "On an error there is no value (kind() = KIND_NONE).");
+        for (String text : TEXTS) {
+            SecdLisp lisp = Check.compiled(9, text);
+            if (lisp.run(400) != SecdLisp.OK) {
+                Check.noValue("error of " + text, lisp);
+            }
+        }
+        SecdLisp lisp = Check.compiled(3, "(cons 1 2)");
+        for (int turn = 0; turn < 3; turn++) {
+            Check.same("run", lisp.run(400), SecdLisp.OK);
+            lisp.goCar();
+            Check.same("run in want of fuel", lisp.run(2), SecdLisp.ERR_FUEL);
+            Check.noValue("a value before it is gone", lisp);
+            Check.same("status", lisp.status(), SecdLisp.ERR_FUEL);
+            Check.same("steps", lisp.steps(), 2);
+        }
+    }
+
+    private static void programAndTokensStay() {
+        Check.sentence("Promise 7", "The program stays present and the tokens are unchanged.");
+        for (String text : TEXTS) {
+            for (int fuel : new int[] {-1, 1, 2, 5, 50, 400, 1000}) {
+                SecdLisp lisp = Check.compiled(9, text);
+                lisp.run(fuel);
+                Check.same("tokenCount", lisp.tokenCount(), Check.words(text).length);
+                Check.same("program present", lisp.run(fuel) != SecdLisp.ERR_NOPROG, true);
+                lisp.run(fuel);
+                SecdLisp twin = Check.compiled(9, text);
+                twin.run(fuel);
+                Check.same("after run(" + fuel + ") of " + text, States.future(lisp), States.future(twin));
+            }
+        }
+    }
+
+    private static void answerIsTheStatus() {
+        Check.sentence("Promise 7", "The answer is the recorded status.");
+        for (String text : TEXTS) {
+            SecdLisp lisp = Check.compiled(9, text);
+            for (int fuel = 0; fuel <= 401; fuel++) {
+                int answered = lisp.run(fuel);
+                Check.same("status after run(" + fuel + ") of " + text, lisp.status(), answered);
+            }
+        }
+    }
+
+    private static void outcomeDependsOnNothingElse() {
+        Check.sentence("Promise 7",
+            "A run's outcome depends only on the tokens, the clamped fuel and depthLimit().");
+        SecdLisp used = new SecdLisp(9);
+        for (String before : TEXTS) {
+            for (String text : TEXTS) {
+                used.clear();
+                Check.hand(used, before);
+                used.compile();
+                used.run(400);
+                used.clear();
+                Check.hand(used, text);
+                used.compile();
+                used.run(400);
+                SecdLisp fresh = Check.compiled(9, text);
+                fresh.run(400);
+                Check.same(text + " after " + before, States.now(used) + Check.show(used),
+                    States.now(fresh) + Check.show(fresh));
+            }
+        }
+        // Two objects do not share anything.
+        SecdLisp one = Check.compiled(9, TEXTS[3]);
+        SecdLisp other = Check.compiled(9, TEXTS[1]);
+        one.run(400);
+        other.run(400);
+        Check.same("the first object's value", Check.show(one), "[5 . [4 . [3 . [2 . [1 . fn1@25]]]]]");
+        Check.same("the second object's value", Check.show(other), "[1 . [[2 . [nil . nil]] . nil]]");
+    }
+
+    private static void enoughFuelIsEnough() {
+        Check.sentence("Promise 7", "if run(f) answers r other than ERR_FUEL and leaves steps() = s, then for"
+            + " every f2 with s <= f2 <= 400, run(f2) in its place answers r, leaves steps() = s and the same"
+            + " maxDepth(), and gives the same answers to every following sequence of kind, intValue,"
+            + " closureArity, closureSource, goRoot, goCar and goCdr calls.");
+        for (String text : TEXTS) {
+            SecdLisp lisp = Check.compiled(9, text);
+            if (lisp.run(400) == SecdLisp.ERR_FUEL) {
+                continue;
+            }
+            int enough = lisp.steps();
+            String due = States.now(lisp) + Check.show(lisp);
+            for (int fuel = enough; fuel <= 400; fuel++) {
+                lisp.run(fuel);
+                Check.same("run(" + fuel + ") of " + text, States.now(lisp) + Check.show(lisp), due);
+            }
+        }
+    }
+
+    private static void wantOfFuelIsWantOfLess() {
+        Check.sentence("Promise 7", "If run(f) answers ERR_FUEL, then steps() equals f clamped into 1..400, and"
+            + " for every f2 with 1 <= f2 <= that clamped f, run(f2) in its place answers ERR_FUEL with"
+            + " steps() = f2.");
+        for (String text : TEXTS) {
+            SecdLisp lisp = Check.compiled(9, text);
+            int greatest = lisp.run(400) == SecdLisp.ERR_FUEL ? 400 : lisp.steps() - 1;
+            for (int fuel = 1; fuel <= greatest; fuel++) {
+                Check.same("run(" + fuel + ") of " + text, lisp.run(fuel), SecdLisp.ERR_FUEL);
+                Check.same("steps of run(" + fuel + ") of " + text, lisp.steps(), fuel);
+            }
+        }
+    }
+
+    // ---- promises 8 to 10 ----
+
+    private static void statusOfTheLastRun() {
+        Check.sentence("Promise 8", "status() answers the status of the last recorded run");
+        for (int state = 0; state < States.COUNT; state++) {
+            Check.same("status in the state '" + States.name(state) + "'", States.make(state).status(),
+                States.status(state));
+        }
+        SecdLisp lisp = Check.compiled(3, "(null nil)");
+        lisp.run(1);
+        Check.same("status of the first run", lisp.status(), SecdLisp.ERR_FUEL);
+        lisp.run(2);
+        Check.same("status of the second run", lisp.status(), SecdLisp.OK);
+        lisp.run(1);
+        Check.same("status of the third run", lisp.status(), SecdLisp.ERR_FUEL);
+    }
+
+    private static void noStatusWithoutResult() {
+        Check.sentence("Promise 8", "or NO_RESULT if there is no run result");
+        // ERR_NOPROG is answered but not recorded, and so are compile's errors.
+        SecdLisp lisp = new SecdLisp(3);
+        Check.same("fresh", lisp.status(), SecdLisp.NO_RESULT);
+        lisp.run(400);
+        Check.same("after run without program", lisp.status(), SecdLisp.NO_RESULT);
+        lisp.compile();
+        Check.same("after compile of nothing", lisp.status(), SecdLisp.NO_RESULT);
+        Check.hand(lisp, "a");
+        lisp.compile();
+        Check.same("after compile of an unbound name", lisp.status(), SecdLisp.NO_RESULT);
+        lisp.run(400);
+        Check.same("after run of an unbound name", lisp.status(), SecdLisp.NO_RESULT);
+        lisp.clear();
+        Check.hand(lisp, "7");
+        Check.same("before compile", lisp.status(), SecdLisp.NO_RESULT);
+        lisp.compile();
+        Check.same("before run", lisp.status(), SecdLisp.NO_RESULT);
+        lisp.run(400);
+        Check.same("after run", lisp.status(), SecdLisp.OK);
+        lisp.compile();
+        Check.same("after compile", lisp.status(), SecdLisp.NO_RESULT);
+        lisp.run(400);
+        lisp.token(SecdLisp.TOK_NIL, 0);
+        Check.same("after token", lisp.status(), SecdLisp.NO_RESULT);
+    }
+
+    private static void stepsOfTheLastRun() {
+        Check.sentence("Promise 9",
+            "steps() answers the steps of the last recorded run, or 0 if there is no run result.");
+        SecdLisp lisp = Check.holding(3, "(null (null nil))");
+        Check.same("before compile", lisp.steps(), 0);
+        lisp.compile();
+        Check.same("before run", lisp.steps(), 0);
+        int[] fuels = {400, 1, 3, 2, 0, 1000};
+        int[] due = {3, 1, 3, 2, 1, 3};
+        for (int i = 0; i < fuels.length; i++) {
+            lisp.run(fuels[i]);
+            Check.same("steps of run(" + fuels[i] + ")", lisp.steps(), due[i]);
+        }
+        lisp.compile();
+        Check.same("after compile", lisp.steps(), 0);
+        lisp.run(400);
+        lisp.token(SecdLisp.TOK_NIL, 0);
+        Check.same("after token", lisp.steps(), 0);
+        lisp.run(400);
+        Check.same("after run without program", lisp.steps(), 0);
+    }
+
+    private static void maxDepthOfTheLastRun() {
+        Check.sentence("Promise 10", "maxDepth() answers the greatest count of active applications in the last"
+            + " recorded run, or 0 if there is no run result.");
+        SecdLisp lisp = Check.holding(3, "((lambda () ((lambda () 1))))");
+        Check.same("before compile", lisp.maxDepth(), 0);
+        lisp.compile();
+        Check.same("before run", lisp.maxDepth(), 0);
+        int[] fuels = {400, 1, 3, 2, 0, 4, 1000};
+        int[] due = {2, 0, 1, 1, 0, 2, 2};
+        for (int i = 0; i < fuels.length; i++) {
+            lisp.run(fuels[i]);
+            Check.same("maxDepth of run(" + fuels[i] + ")", lisp.maxDepth(), due[i]);
+        }
+        lisp.compile();
+        Check.same("after compile", lisp.maxDepth(), 0);
+        lisp.run(400);
+        lisp.token(SecdLisp.TOK_NIL, 0);
+        Check.same("after token", lisp.maxDepth(), 0);
+        lisp.run(400);
+        Check.same("after run without program", lisp.maxDepth(), 0);
+    }
+
+    private static void askingChangesNothing(String promise, String name, States.Calls call) {
+        Check.sentence(promise, "It changes nothing.");
+        States.unchangedBy(name, lisp -> {
+            call.on(lisp);
+            call.on(lisp);
+        });
     }
 }
