@@ -13,8 +13,10 @@ final class EvaluationTest {
     private static final String DEPTH = "error 5";
 
     public static void main(String[] args) {
+        valuesOfEachSort();
         arithmeticWraps();
 
+        everyExprIsAStep();
         fuelRule();
         firstErrorStops();
         atoms();
@@ -42,6 +44,7 @@ final class EvaluationTest {
         wrongCount();
         tooDeep();
         errorsOfACallInOrder();
+        activeCountRises();
         activeCountFalls();
         closureKeepsItsEnvironment();
         letsAreNoApplications();
@@ -75,6 +78,25 @@ final class EvaluationTest {
 
     // ---- values ----
 
+    private static void valuesOfEachSort() {
+        Check.sentence("Values", "A value is a 32-bit int; nil; a pair of two values; or a closure"
+            + " (a lambda form together with the environment in which it was evaluated).");
+        String[] exprs = {MIN, MAX, "nil", "(quote (0))", "(lambda (x) x)"};
+        String[] shown = {MIN, MAX, "nil", "[0 . nil]", "fn1@"};
+        int[] sizes = {1, 1, 1, 6, 7};
+        for (int i = 0; i < exprs.length; i++) {
+            for (int j = 0; j < exprs.length; j++) {
+                String first = shown[i].equals("fn1@") ? "fn1@2" : shown[i];
+                String second = shown[j].equals("fn1@") ? "fn1@" + (2 + sizes[i]) : shown[j];
+                gives("(cons " + exprs[i] + " " + exprs[j] + ")", "[" + first + " . " + second + "]", 3);
+            }
+            String bound = shown[i].equals("fn1@") ? "fn1@5" : shown[i];
+            gives("(let ((a " + exprs[i] + ")) a)", bound, 3);
+        }
+        // A closure has the environment of its making with it wherever it goes.
+        gives(1, "(let ((p (let ((a 4)) (cons (lambda () a) nil)))) (let ((a 5)) ((car p))))", "4", 12, 1);
+    }
+
     private static void arithmeticWraps() {
         Check.sentence("Values", "Arithmetic wraps as 32-bit two's complement, as Java int arithmetic does.");
         gives("(add " + MAX + " 1)", MIN, 3);
@@ -96,6 +118,35 @@ final class EvaluationTest {
     }
 
     // ---- evaluation ----
+
+    private static void everyExprIsAStep() {
+        Check.sentence("Evaluation",
+            "Each time any expr is evaluated (every subexpression, each time), first the fuel rule applies");
+        // Each form takes one step for itself and those of the exprs in it that are evaluated.
+        gives("1", "1", 1);
+        gives("nil", "nil", 1);
+        gives("(quote (1 2))", "[1 . [2 . nil]]", 1);
+        gives("(lambda (a) a)", "fn1@0", 1);
+        gives("(let ((a 1)) 2)", "2", 3);
+        gives("(let ((a 1) (b 2) (c 3) (d 4)) 5)", "5", 6);
+        gives("(letrec ((f (lambda () 1))) 2)", "2", 3);
+        gives("(if 1 2 3)", "2", 3);
+        gives("(if 0 2 3)", "3", 3);
+        gives("(cons 1 2)", "[1 . 2]", 3);
+        gives("(car (quote (1)))", "1", 2);
+        gives("(cdr (quote (1)))", "nil", 2);
+        gives("(null 1)", "0", 2);
+        String[] ofOnes = {"2", "0", "1", "1", "1", "0"};
+        for (int i = 0; i < BINARY.length; i++) {
+            gives("(" + BINARY[i] + " 1 1)", ofOnes[i], 3);
+        }
+        gives(1, "((lambda () 1))", "1", 3, 1);
+        gives(1, "((lambda (a) a) 1)", "1", 4, 1);
+        gives(1, "((lambda (a b c d) a) 1 2 3 4)", "1", 7, 1);
+        // A SYM in use is an expr, the name in a bind is not; a body is evaluated at each call.
+        gives("(let ((a 1)) (add a a))", "2", 5);
+        gives(1, "(let ((f (lambda () (add 1 1)))) (add (f) (f)))", "4", 13, 1);
+    }
 
     private static void fuelRule() {
         Check.sentence("Evaluation", "if the run's step counter equals the fuel, the run stops at once with"
@@ -489,6 +540,21 @@ final class EvaluationTest {
         gives(1, "((lambda () (1 (car 1))))", TYPE, 5, 1);
         gives(1, "((lambda () ((lambda () 1) (car 1))))", TYPE, 5, 1);
         gives(1, "((lambda () ((lambda (a) a) (car 1))))", TYPE, 5, 1);
+    }
+
+    private static void activeCountRises() {
+        Check.sentence("Evaluation",
+            "Otherwise the active count rises by one (maxDepth is the greatest value it reaches)");
+        for (int calls = 1; calls <= 9; calls++) {
+            String nested = "((lambda () ".repeat(calls) + "1" + "))".repeat(calls);
+            gives(calls, nested, "1", 2 * calls + 1, calls);
+            gives(32, nested, "1", 2 * calls + 1, calls);
+            // The arguments are evaluated before the call is active, so they do not nest in it.
+            String arguments = "((lambda (a) a) ".repeat(Math.min(calls, 6)) + "1" + ")".repeat(Math.min(calls, 6));
+            gives(32, arguments, "1", 3 * Math.min(calls, 6) + 1, 1);
+        }
+        gives(32, "(cons ((lambda () ((lambda () 1)))) ((lambda () 2)))", "[1 . 2]", 9, 2);
+        gives(32, "(cons ((lambda () 1)) ((lambda () ((lambda () 2)))))", "[1 . 2]", 9, 2);
     }
 
     private static void activeCountFalls() {

@@ -30,6 +30,7 @@ final class FaceTest {
     };
 
     public static void main(String[] args) throws IllegalAccessException {
+        Check.sentence("What it is", "Public constants");
         Set<String> fields = new TreeSet<>();
         for (Field field : SecdLisp.class.getDeclaredFields()) {
             if (!Modifier.isPrivate(field.getModifiers())) {
@@ -41,6 +42,7 @@ final class FaceTest {
         }
         Check.same("constants", fields.toString(), new TreeSet<>(Set.of(CONSTANTS)).toString());
 
+        Check.sentence("The public face", "public final class SecdLisp");
         Set<String> methods = new TreeSet<>();
         for (Method method : SecdLisp.class.getDeclaredMethods()) {
             if (!Modifier.isPrivate(method.getModifiers())) {

@@ -25,6 +25,8 @@ final class GrammarTest {
     };
 
     public static void main(String[] args) {
+        keywordKinds();
+        valuesOfOtherTokensDoNotMatter();
         sameNamesAreEqualInts();
         tokensAreNumberedFromNone();
 
@@ -62,6 +64,49 @@ final class GrammarTest {
     }
 
     // ---- tokens ----
+
+    private static void keywordKinds() {
+        Check.sentence("What it is", "Kinds 6..20 are the keyword tokens.");
+        for (int kind = SecdLisp.TOK_NUM; kind <= 20; kind++) {
+            boolean keyword = kind >= 6;
+            int due = keyword ? SecdLisp.ERR_SYNTAX : kind == SecdLisp.TOK_SYM ? SecdLisp.ERR_UNBOUND : SecdLisp.OK;
+            SecdLisp alone = new SecdLisp(3);
+            alone.token(kind, 7);
+            Check.same("compile of kind " + kind + " alone", alone.compile(), due);
+            SecdLisp argument = Check.holding(3, "(1");
+            argument.token(kind, 7);
+            Check.hand(argument, ")");
+            Check.same("compile of kind " + kind + " as an argument", argument.compile(), due);
+            SecdLisp first = Check.holding(3, "(");
+            first.token(kind, 7);
+            Check.hand(first, ")");
+            Check.same("compile of kind " + kind + " as a form of its own", first.compile(), due);
+        }
+    }
+
+    private static void valuesOfOtherTokensDoNotMatter() {
+        Check.sentence("Tokens", "The value matters only for TOK_NUM (the number, any int) and TOK_SYM");
+        int[] values = {Integer.MIN_VALUE, -1, 1, 2, 20, Integer.MAX_VALUE};
+        String[] texts = {"()", "nil", "(quote (nil ()))", "(lambda (a b) (cons a nil))", "(lambda (a a) 1)", "(a)",
+            "(let ((a 1)) (if a nil ()))", "(letrec ((f (lambda () nil))) (f))"};
+        for (String text : texts) {
+            for (int value : values) {
+                SecdLisp lisp = new SecdLisp(3);
+                for (String word : Check.words(text)) {
+                    int kind = Check.kindOf(word);
+                    boolean matters = kind == SecdLisp.TOK_NUM || kind == SecdLisp.TOK_SYM;
+                    lisp.token(kind, matters ? Check.valueOf(kind, word) : value);
+                }
+                SecdLisp plain = Check.holding(3, text);
+                Check.same("compile of " + text + " with values " + value, lisp.compile(), plain.compile());
+                Check.same("run of " + text + " with values " + value, lisp.run(400), plain.run(400));
+                Check.same("value of " + text + " with values " + value, Check.show(lisp), Check.show(plain));
+            }
+        }
+        // And there it matters.
+        Check.same("a number", Check.ran(1, "-2147483648").intValue(), Integer.MIN_VALUE);
+        Check.unbound("(lambda (a) b)");
+    }
 
     private static int compileSymbols(String before, int... names) {
         SecdLisp lisp = new SecdLisp(3);

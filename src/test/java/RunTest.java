@@ -23,6 +23,7 @@ final class RunTest {
     };
 
     public static void main(String[] args) {
+        anyFuelIsAccepted();
         lowFuelBecomesOne();
         highFuelBecomesFourHundred();
         fuelBetweenIsKept();
@@ -52,6 +53,18 @@ final class RunTest {
     }
 
     // ---- promise 7 ----
+
+    private static void anyFuelIsAccepted() {
+        Check.sentence("Promise 7", "run(fuel) accepts any int");
+        for (int[] fuels : new int[][] {LOW_FUELS, HIGH_FUELS, {1, 2, 200, 399, 400}}) {
+            for (int fuel : fuels) {
+                SecdLisp lisp = Check.compiled(1, "7");
+                Check.same("run(" + fuel + ")", lisp.run(fuel), SecdLisp.OK);
+                Check.same("value of run(" + fuel + ")", lisp.intValue(), 7);
+                Check.same("run(" + fuel + ") without program", new SecdLisp(1).run(fuel), SecdLisp.ERR_NOPROG);
+            }
+        }
+    }
 
     private static void lowFuelBecomesOne() {
         Check.sentence("Promise 7", "fuel is clamped into 1..MAX_FUEL (below 1 becomes 1");

@@ -20,6 +20,7 @@ final class StateTest {
         clearKeepsTheLimit();
         clearedListFillsAnew();
 
+        strangeKindOnAFullList();
         strangeKindsAreRefused();
         kindsInRangeAreAccepted();
         fullListRefuses();
@@ -201,6 +202,16 @@ final class StateTest {
     }
 
     // ---- promise 4 ----
+
+    private static void strangeKindOnAFullList() {
+        Check.sentence("Promise 4", "token(kind, value) considers, in order");
+        // Either ground alone refuses, and so do both together.
+        for (int kind = -1; kind <= 22; kind++) {
+            boolean strange = kind < 1 || kind > 20;
+            Check.same("kind " + kind, new SecdLisp(3).token(kind, 1), !strange);
+            Check.same("kind " + kind + " on a full list", Check.holding(3, States.FULL).token(kind, 1), false);
+        }
+    }
 
     private static void strangeKindsAreRefused() {
         Check.sentence("Promise 4", "kind not in 1..20: answers false.");
