@@ -9,6 +9,15 @@ final class Check {
         "add", "sub", "mul", "div", "eq", "lt"
     };
 
+    static {
+        // No call may throw; should one do so, the sentence under test must be told with it.
+        Thread.setDefaultUncaughtExceptionHandler((thread, thrown) -> {
+            System.out.println(holding + "a call threw " + thrown);
+            thrown.printStackTrace();
+            System.exit(1);
+        });
+    }
+
     private Check() {}
 
     /**

@@ -194,10 +194,8 @@ final class CursorTest {
         Check.sentence("Promise 15", "goRoot() with no value answers false and changes nothing.");
         for (int state = 0; state < States.COUNT; state++) {
             if (States.status(state) != SecdLisp.OK) {
-                SecdLisp lisp = States.make(state);
-                Check.same("goRoot in the state '" + States.name(state) + "'", lisp.goRoot(), false);
-                Check.same("after goRoot in the state '" + States.name(state) + "'", States.future(lisp),
-                    States.future(States.make(state)));
+                Check.same("goRoot in the state '" + States.name(state) + "'", States.make(state).goRoot(), false);
+                States.unchangedBy("goRoot without value", state, SecdLisp::goRoot);
             }
         }
     }
@@ -215,7 +213,11 @@ final class CursorTest {
             SecdLisp lisp = ran(TREE);
             walk(lisp, path);
             Check.same("goRoot from " + path, lisp.goRoot(), true);
-            Check.same("at the root from " + path, States.future(lisp), States.future(ran(TREE)));
+            States.alike("at the root from " + path, () -> {
+                SecdLisp walked = walked(path);
+                walked.goRoot();
+                return walked;
+            }, () -> ran(TREE));
         }
     }
 
@@ -223,6 +225,12 @@ final class CursorTest {
         for (char turn : path.toCharArray()) {
             Check.same("turn " + turn + " of " + path, turn == 'a' ? lisp.goCar() : lisp.goCdr(), true);
         }
+    }
+
+    private static SecdLisp walked(String path) {
+        SecdLisp lisp = ran(TREE);
+        walk(lisp, path);
+        return lisp;
     }
 
     private static void valueNeverChanges() {
@@ -240,34 +248,37 @@ final class CursorTest {
 
     // ---- promise 16 ----
 
-    /** Leaves and lacking values: where neither goCar nor goCdr can go. */
-    private static void refused(String name, boolean first) {
+    private interface Move {
+        boolean on(SecdLisp lisp);
+    }
+
+    /** Holds that a move is refused, and changes nothing, at leaves and where there is no value. */
+    private static void refused(String name, Move move) {
         for (int state = 0; state < States.COUNT; state++) {
-            SecdLisp lisp = States.make(state);
-            if (lisp.kind() != SecdLisp.KIND_PAIR) {
-                Check.same(name + " in the state '" + States.name(state) + "'", first ? lisp.goCar() : lisp.goCdr(),
-                    false);
-                Check.same("after " + name + " in the state '" + States.name(state) + "'", States.future(lisp),
-                    States.future(States.make(state)));
+            if (States.make(state).kind() != SecdLisp.KIND_PAIR) {
+                Check.same(name + " in the state '" + States.name(state) + "'", move.on(States.make(state)), false);
+                States.unchangedBy(name, state, move::on);
             }
         }
         for (String leaf : new String[] {"6", "0", "nil", "(quote ())", "(lambda (a) a)"}) {
-            for (String text : new String[] {leaf, "(cons 1 " + leaf + ")", "(cons 1 (cons 2 " + leaf + "))"}) {
-                SecdLisp lisp = ran(text);
-                SecdLisp twin = ran(text);
-                while (lisp.goCdr()) {
-                    twin.goCdr();
-                }
-                Check.same(name + " at the end of " + text, first ? lisp.goCar() : lisp.goCdr(), false);
-                Check.same("again", first ? lisp.goCar() : lisp.goCdr(), false);
-                Check.same("after " + name + " at the end of " + text, States.future(lisp), States.future(twin));
+            String[] texts = {leaf, "(cons 1 " + leaf + ")", "(cons 1 (cons 2 " + leaf + "))"};
+            for (int pairs = 0; pairs < texts.length; pairs++) {
+                String path = "d".repeat(pairs);
+                String text = texts[pairs];
+                States.Maker atEnd = () -> {
+                    SecdLisp lisp = ran(text);
+                    walk(lisp, path);
+                    return lisp;
+                };
+                Check.same(name + " at the end of " + text, move.on(atEnd.make()), false);
+                States.unchangedBy(name + " at the end of " + text, atEnd, move::on);
             }
         }
     }
 
     private static void goCarElsewhere() {
         Check.sentence("Promise 16", "goCar(): if kind() is not KIND_PAIR, answers false and changes nothing.");
-        refused("goCar", true);
+        refused("goCar", SecdLisp::goCar);
     }
 
     private static void goCarAtAPair() {
@@ -284,7 +295,7 @@ final class CursorTest {
 
     private static void goCdrElsewhere() {
         Check.sentence("Promise 16", "goCdr(): if kind() is not KIND_PAIR, answers false and changes nothing.");
-        refused("goCdr", false);
+        refused("goCdr", SecdLisp::goCdr);
     }
 
     private static void goCdrAtAPair() {
@@ -330,21 +341,16 @@ final class CursorTest {
         Check.sentence("Promise 16", "The cursor moves only through goRoot, goCar, goCdr and a run");
         String[] paths = {"", "a", "d", "aa", "ad", "da", "dd", "ddda", "dddd"};
         for (String path : paths) {
-            SecdLisp lisp = ran(TREE);
-            walk(lisp, path);
-            String due = States.now(lisp);
-            for (int turn = 0; turn < 3; turn++) {
+            States.unchangedBy("at " + path, () -> walked(path), lisp -> {
                 lisp.token(0, 1);
                 lisp.token(21, 1);
-                Check.same("at " + path, States.now(lisp), due);
-            }
-            SecdLisp twin = ran(TREE);
-            walk(twin, path);
-            Check.same("future at " + path, States.future(lisp), States.future(twin));
-            SecdLisp again = ran(TREE);
-            walk(again, path);
-            again.run(400);
-            Check.same("a run from " + path, States.future(again), States.future(ran(TREE)));
+                States.now(lisp);
+            });
+            States.alike("a run from " + path, () -> {
+                SecdLisp lisp = walked(path);
+                lisp.run(400);
+                return lisp;
+            }, () -> ran(TREE));
         }
     }
 

@@ -110,29 +110,30 @@ final class RunTest {
     }
 
     private static void sameRuns(String text, int fuel, int other) {
+        Check.same("run(" + fuel + ") of " + text, Check.compiled(9, text).run(fuel),
+            Check.compiled(9, text).run(other));
+        States.alike("after run(" + fuel + ") of " + text, () -> runWith(text, fuel), () -> runWith(text, other));
+    }
+
+    private static SecdLisp runWith(String text, int fuel) {
         SecdLisp lisp = Check.compiled(9, text);
-        SecdLisp twin = Check.compiled(9, text);
-        Check.same("run(" + fuel + ") of " + text, lisp.run(fuel), twin.run(other));
-        Check.same("after run(" + fuel + ") of " + text, States.future(lisp), States.future(twin));
+        lisp.run(fuel);
+        return lisp;
     }
 
     private static void noProgram() {
         Check.sentence("Promise 7", "If no program is present, it answers ERR_NOPROG and changes nothing.");
-        int met = 0;
         for (int state = 0; state < States.COUNT; state++) {
             for (int fuel : new int[] {Integer.MIN_VALUE, 0, 1, 400, Integer.MAX_VALUE}) {
                 SecdLisp lisp = States.make(state);
                 boolean absent = lisp.run(fuel) == SecdLisp.ERR_NOPROG;
-                met += absent ? 1 : 0;
                 Check.same("ERR_NOPROG in the state '" + States.name(state) + "'", absent, States.noProgram(state));
-                if (absent) {
+                if (States.noProgram(state)) {
                     Check.noResult("run in the state '" + States.name(state) + "'", lisp);
-                    Check.same("after run in the state '" + States.name(state) + "'", States.future(lisp),
-                        States.future(States.make(state)));
+                    States.unchangedBy("run without program", state, object -> object.run(fuel));
                 }
             }
         }
-        Check.same("states without a program were met", met > 0, true);
     }
 
     private static void runsAreFresh() {
@@ -269,10 +270,8 @@ final class RunTest {
                 lisp.run(fuel);
                 Check.same("tokenCount", lisp.tokenCount(), Check.words(text).length);
                 Check.same("program present", lisp.run(fuel) != SecdLisp.ERR_NOPROG, true);
-                lisp.run(fuel);
-                SecdLisp twin = Check.compiled(9, text);
-                twin.run(fuel);
-                Check.same("after run(" + fuel + ") of " + text, States.future(lisp), States.future(twin));
+                States.unchangedBy("run(" + fuel + ") again of " + text, () -> runWith(text, fuel),
+                    object -> object.run(fuel));
             }
         }
     }

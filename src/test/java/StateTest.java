@@ -167,12 +167,16 @@ final class StateTest {
             Check.noResult(when, lisp);
             Check.same(when + ": run", lisp.run(400), SecdLisp.ERR_NOPROG);
             Check.noResult(when + " and run", lisp);
-            Check.same(when + ": future", States.future(lisp), States.future(new SecdLisp(3)));
-            lisp = States.make(state);
-            lisp.clear();
-            lisp.clear();
-            Check.same(when + ", twice: future", States.future(lisp), States.future(new SecdLisp(3)));
+            int given = state;
+            States.alike(when, () -> cleared(given), () -> new SecdLisp(3));
+            States.unchangedBy(when + " twice", () -> cleared(given), SecdLisp::clear);
         }
+    }
+
+    private static SecdLisp cleared(int state) {
+        SecdLisp lisp = States.make(state);
+        lisp.clear();
+        return lisp;
     }
 
     private static void clearKeepsTheLimit() {
@@ -263,12 +267,10 @@ final class StateTest {
         Check.sentence("Promise 4",
             "A refused call changes nothing: tokens, program, run result and cursor stay as they were.");
         for (int kind = 0; kind <= 21; kind++) {
+            int given = kind;
             for (int state = 0; state < States.COUNT; state++) {
-                if (States.make(state).tokenCount() == SecdLisp.MAX_TOKENS) {
-                    SecdLisp lisp = States.make(state);
-                    lisp.token(kind, 9);
-                    Check.same("token of kind " + kind + " in the state '" + States.name(state) + "'",
-                        States.future(lisp), States.future(States.make(state)));
+                if (States.full(state)) {
+                    States.unchangedBy("token of kind " + kind, state, lisp -> lisp.token(given, 9));
                 }
             }
         }
@@ -353,7 +355,7 @@ final class StateTest {
         for (int kind = 1; kind <= 20; kind++) {
             for (int state = 0; state < States.COUNT; state++) {
                 SecdLisp lisp = States.make(state);
-                if (lisp.tokenCount() < SecdLisp.MAX_TOKENS) {
+                if (!States.full(state)) {
                     Check.same("token", lisp.token(kind, 5), true);
                     Check.same("run after a token of kind " + kind + " in the state '"
                         + States.name(state) + "'", lisp.run(400), SecdLisp.ERR_NOPROG);
@@ -367,7 +369,7 @@ final class StateTest {
         for (int kind = 1; kind <= 20; kind++) {
             for (int state = 0; state < States.COUNT; state++) {
                 SecdLisp lisp = States.make(state);
-                if (lisp.tokenCount() < SecdLisp.MAX_TOKENS) {
+                if (!States.full(state)) {
                     Check.same("token", lisp.token(kind, 5), true);
                     Check.noResult("token of kind " + kind + " in the state '" + States.name(state) + "'", lisp);
                 }

@@ -42,6 +42,11 @@ final class States {
         }
     }
 
+    /** Whether no token more can be held in a state. */
+    static boolean full(int state) {
+        return NAMES[state].startsWith("full");
+    }
+
     /** The status that a state must have. */
     static int status(int state) {
         switch (NAMES[state]) {
@@ -203,17 +208,72 @@ final class States {
         return seen.toString();
     }
 
+    /** Makes the same object anew each time. */
+    interface Maker {
+        SecdLisp make();
+    }
+
+    /** What one call, or a few, tell of an object. */
+    private interface Look {
+        String at(SecdLisp lisp);
+    }
+
+    private static final Look[] LOOKS = {
+        lisp -> "depthLimit " + lisp.depthLimit(),
+        lisp -> "tokenCount " + lisp.tokenCount(),
+        lisp -> "status " + lisp.status(),
+        lisp -> "steps " + lisp.steps(),
+        lisp -> "maxDepth " + lisp.maxDepth(),
+        lisp -> "kind " + lisp.kind(),
+        lisp -> "intValue " + lisp.intValue(),
+        lisp -> "closureArity " + lisp.closureArity(),
+        lisp -> "closureSource " + lisp.closureSource(),
+        lisp -> "goRoot " + lisp.goRoot() + " kind " + lisp.kind(),
+        lisp -> "goCar " + lisp.goCar() + " kind " + lisp.kind() + " int " + lisp.intValue(),
+        lisp -> "goCdr " + lisp.goCdr() + " kind " + lisp.kind() + " int " + lisp.intValue(),
+        lisp -> "run " + lisp.run(400) + " value " + Check.show(lisp),
+        lisp -> "compile " + lisp.compile() + " run " + lisp.run(400),
+        lisp -> "token " + lisp.token(SecdLisp.TOK_NUM, 2) + " tokenCount " + lisp.tokenCount(),
+        States::future,
+    };
+
+    /**
+     * Holds that two objects cannot be told apart. Each look is at objects made anew, so that a call
+     * that wrongly changes something cannot hide it from the looks after it.
+     */
+    static void alike(String what, Maker one, Maker other) {
+        for (Look look : LOOKS) {
+            Check.same(what, look.at(one.make()), look.at(other.make()));
+        }
+    }
+
     /** Calls that a test makes on an object. */
     interface Calls {
         void on(SecdLisp lisp);
     }
 
+    private static Maker after(Maker maker, Calls calls) {
+        return () -> {
+            SecdLisp lisp = maker.make();
+            calls.on(lisp);
+            return lisp;
+        };
+    }
+
+    /** Holds that calls change nothing in an object. */
+    static void unchangedBy(String what, Maker maker, Calls calls) {
+        alike(what, after(maker, calls), maker);
+    }
+
+    /** Holds that calls change nothing in a state. */
+    static void unchangedBy(String what, int state, Calls calls) {
+        unchangedBy(what + " in the state '" + name(state) + "'", () -> make(state), calls);
+    }
+
     /** Holds that calls change nothing, whatever the state. */
     static void unchangedBy(String what, Calls calls) {
         for (int state = 0; state < COUNT; state++) {
-            SecdLisp lisp = make(state);
-            calls.on(lisp);
-            Check.same(what + " in the state '" + name(state) + "'", future(lisp), future(make(state)));
+            unchangedBy(what, state, calls);
         }
     }
 }
