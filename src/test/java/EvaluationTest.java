@@ -620,6 +620,9 @@ final class EvaluationTest {
             "(letrec ((f (lambda () (let ((a 1) (b 2) (c 3) (d 4)) (let ((a 1) (b 2) (c 3) (d 4)) (f)))))) (f))",
             "(letrec ((f (lambda (a b c d) (let ((e (f 1 2 3 4))) e)))) (f 1 2 3 4))",
             "(letrec ((f (lambda () (letrec ((a (lambda () 1)) (b (lambda () 1)) (c (lambda () 1))) (f))))) (f))",
+            // Answers handed on: 398 steps, and no expr but the let leaves its answer to another.
+            "(let ((d (lambda (f) (lambda () (cons (f) (f))))))"
+                + " ((d (d (d (d (d (lambda () (cons 1 (cons 1 (cons 1 1)))))))))))",
             // Values made.
             "(letrec ((f (lambda (x) (f " + "(null ".repeat(12) + "(lambda () 1)" + ")".repeat(12) + ")))) (f 1))",
             "(letrec ((f (lambda (n) (if n (cons (cons n n) (f (sub n 1))) nil)))) (f 31))",
